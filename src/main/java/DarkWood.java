@@ -574,14 +574,14 @@ public final class DarkWood {
             }
             sign = tape[at];
             at++;
-            if (isDigit(sign)) {
+            if (sign >= '0' && sign <= '9') {
                 sign = NUMBER;
-                while (at < length && isDigit(tape[at])) {
+                while (at < length && tape[at] >= '0' && tape[at] <= '9') {
                     at++;
                 }
-            } else if (isLetter(sign)) {
+            } else if (sign >= 'a' && sign <= 'z') {
                 sign = WORD;
-                while (at < length && isLetter(tape[at])) {
+                while (at < length && tape[at] >= 'a' && tape[at] <= 'z') {
                     at++;
                 }
             } else if ((sign == '<' || sign == '>') && at < length && tape[at] == '=') {
@@ -589,14 +589,6 @@ public final class DarkWood {
                 at++;
             }
             behind = at;
-        }
-
-        private static boolean isDigit(int sign) {
-            return sign >= '0' && sign <= '9';
-        }
-
-        private static boolean isLetter(int sign) {
-            return sign >= 'a' && sign <= 'z';
         }
 
         private void refuse(int kind) {
@@ -756,7 +748,10 @@ public final class DarkWood {
                 } else if (which == 4) {
                     into.openOne();
                     sum();
-                    condition();
+                    if (opensTest()) {
+                        test(0);
+                    }
+                    into.closeOne();
                 }
                 once |= which >= 0 ? 1 << which : 0;
                 goesOn = goesOn();
@@ -775,36 +770,42 @@ public final class DarkWood {
                 if (which != NONE) {
                     into.openOne();
                     into.add(NUMBER, which);
-                    condition();
+                    if (opensTest()) {
+                        test(0);
+                    }
+                    into.closeOne();
                 }
                 goesOn = goesOn();
             }
         }
 
-        private void condition() {
+        private boolean opensTest() {
             into.openTest();
-            if (wordIn("if") == 0) {
-                next();
-                test(0);
+            if (wordIn("if") == NONE) {
+                return false;
             }
-            into.closeOne();
+            next();
+            return true;
         }
 
+        // An or waits until the ands behind it are joined.
         private void test(int depth) {
-            part(depth);
-            for (int i = 0; i < BYTES && wordIn("or") == 0; i++) {
-                next();
-                part(depth);
-                into.add(OR, 0);
-            }
-        }
-
-        private void part(int depth) {
+            boolean orWaits = false;
             fact(depth);
-            for (int i = 0; i < BYTES && wordIn("and") == 0; i++) {
+            for (int i = 0; i < BYTES && wordIn("and or") != NONE; i++) {
+                int join = wordIn("and or");
+                if (join == 1 && orWaits) {
+                    into.add(OR, 0);
+                }
+                orWaits |= join == 1;
                 next();
                 fact(depth);
-                into.add(AND, 0);
+                if (join == 0) {
+                    into.add(AND, 0);
+                }
+            }
+            if (orWaits) {
+                into.add(OR, 0);
             }
         }
 
@@ -824,10 +825,31 @@ public final class DarkWood {
                     refuse(CANT_STAND);
                 }
             } else {
-                comparison();
+                sum();
+                int compare = sign;
+                if (compare == '<' || compare == AT_MOST || compare == '=' || compare == AT_LEAST || compare == '>') {
+                    countPart();
+                    next();
+                    sum();
+                    addComparison(compare);
+                } else {
+                    refuse(CANT_STAND);
+                }
             }
             for (int i = depth; i < deep; i++) {
                 into.add(NOT, 0);
+            }
+        }
+
+        private void addComparison(int compare) {
+            if (compare == AT_MOST) {
+                into.add('>', 0);
+                into.add(NOT, 0);
+            } else if (compare == AT_LEAST) {
+                into.add('<', 0);
+                into.add(NOT, 0);
+            } else {
+                into.add(compare, 0);
             }
         }
 
@@ -868,23 +890,26 @@ public final class DarkWood {
             parts++;
         }
 
+        // A + or - waits until the * and / behind it are joined.
         private void sum() {
-            term();
-            for (int i = 0; i < BYTES && (sign == '+' || sign == '-'); i++) {
-                int operator = sign;
-                next();
-                term();
-                into.add(operator, 0);
-            }
-        }
-
-        private void term() {
+            int waits = 0;
             value();
-            for (int i = 0; i < BYTES && (sign == '*' || sign == '/'); i++) {
-                int operator = sign;
+            for (int i = 0; i < BYTES && (sign == '+' || sign == '-' || sign == '*' || sign == '/'); i++) {
+                int join = sign;
+                boolean joinsFirst = join == '*' || join == '/';
+                if (!joinsFirst && waits != 0) {
+                    into.add(waits, 0);
+                }
                 next();
                 value();
-                into.add(operator, 0);
+                if (joinsFirst) {
+                    into.add(join, 0);
+                } else {
+                    waits = join;
+                }
+            }
+            if (waits != 0) {
+                into.add(waits, 0);
             }
         }
 
@@ -1492,7 +1517,10 @@ public final class DarkWood {
             long mostHomes = 0;
             long leastHarms = 0;
             for (int index = 0; index < 1 << 2 * n; index++) {
-                int level = index == 0 ? 0 : n - 1 - Integer.numberOfTrailingZeros(index) / 2;
+                int level = index == 0 ? 0 : n - 1;
+                for (int rest = index; level > 0 && (rest & 3) == 0; rest >>= 2) {
+                    level--;
+                }
                 for (; level < n; level++) {
                     step(level, index >> 2 * (n - 1 - level) & 3, setting);
                 }
@@ -1637,24 +1665,24 @@ public final class DarkWood {
             if (draw() % 1000 >= law.feel) {
                 ground = (ground + 1 + draw() % 7) % 8;
             }
-            note(FELT, ground, 0, GROUND, setting);
+            if (odds.happens(FELT, ground, 0, setting)) {
+                words[GROUND] = ground;
+            }
             int sky = wood.sky[cell];
             if (draw() % 1000 >= law.seeing(odds.eyes)) {
                 sky = (sky + 1 + draw() % 9) % 10;
             }
-            note(SEEN, sky, 0, SKY, setting);
+            if (odds.happens(SEEN, sky, 0, setting)) {
+                words[SKY] = sky;
+            }
             if (wood.sources > 0) {
                 int loud = wood.loudAt(0, cell);
                 if (draw() % 1000 >= law.hear) {
                     loud = draw() % 2 == 0 ? Math.max(0, loud - 1) : Math.min(MOST_LOUD, loud + 1);
                 }
-                note(HEARD, 0, loud, LOUD, setting);
-            }
-        }
-
-        private void note(int kind, int first, int second, int word, Setting setting) {
-            if (odds.happens(kind, first, second, setting)) {
-                words[word] = kind == HEARD ? second : first;
+                if (odds.happens(HEARD, 0, loud, setting)) {
+                    words[LOUD] = loud;
+                }
             }
         }
     }
