@@ -16,6 +16,7 @@ public final class AskTest {
         rememberMatches();
         rememberRefused();
         rememberSits();
+        rememberAll();
         tells();
         aim();
         look();
@@ -306,7 +307,42 @@ public final class AskTest {
         Check.due("a match that would be refused", d.remember(1, 0, 400), 8);
     }
 
+    /** Each of the four sorts tells what the others don't: nothing less than all of them is enough. */
+    private static void rememberAll() {
+        DarkWood d = at("wide 5 2;ground 1 3 0 4 1;sky 1 0 0 3 1;path 0 0 4 1;source 6 1 0",
+                "step 500;drift 0;feel 700;see 600;hear 600", 1, 0, 1);
+        for (int i = 0; i < 12; i++) {
+            d.act(4);
+        }
+        d.act(0);
+        d.act(0);
+        d.felt(0);
+        d.heard(0, 6);
+        d.act(0);
+        d.act(0);
+        d.seen(1);
+        d.strike(1, true);
+        Check.due("now", d.odds(3, 0, ALL) / 1000000, 955);
+        Check.due("all of them", d.remember(3, 0, 955), 15);
+        Check.due("none is enough", d.remember(3, 0, 956), -2);
+        Check.due("none is needed where he began", d.remember(1, 0, 62), 0);
+        Check.due("another WALK", d.walk(0, 0, 2, 1, 3), true);
+        Check.due("from where it began", d.remember(2, 1, 1000), 0);
+        Check.due("from where it began", d.act(0), 1);
+        Check.due("from where it began", d.remember(2, 1, 500), 0);
+        Check.due("from where it began", d.remember(1, 1, 500), 0);
+        Check.due("from where it began", d.remember(1, 1, 501), -2);
+    }
+
     private static void tells() {
+        DarkWood first = at("wide 2 2;path 0 0 0 0;path 1 1 1 1", "step 500;drift 0", 0, 0, 1);
+        Check.due("tells at (0, 0)", first.tells(), 1000000000);
+        first.act(0);
+        Check.due("with a path and without", first.tells(), 1000000000);
+        first.act(2);
+        first.act(0);
+        // 250 at (0, 0) and (1, 1), with a path; 250 at (1, 0) and (0, 1), without
+        Check.due("the most of each", first.tells(), 500000000);
         DarkWood d = at("wide 3 3", "step 500;drift 100", 1, 1, 0);
         Check.due("surely", d.tells(), 1000000000);
         d.act(0);
@@ -335,6 +371,10 @@ public final class AskTest {
         for (int[] one : wrong) {
             Check.due("aim without these", d.aim(one[0], one[1], one[2]), -1);
         }
+        DarkWood corner = at("home 0 0", "step 0", 11, 11, 1);
+        Check.due("in the corner", corner.aim(0, 10, 1000), 0);
+        Check.due("in the corner", corner.aim(1, 10, 1000), 0);
+        Check.due("in the corner", corner.aim(1, 11, 1000), 1);
         DarkWood e = at("wide 3 2", "step 500;drift 0", 0, 0, 1);
         Check.due("the twelfth", e.aim(0, 11, 1000), 12);
         Check.due("the twelfth", e.aim(1, 11, 1000), 12);
@@ -365,6 +405,17 @@ public final class AskTest {
         DarkWood f = at("wide 2 2;home 0 0", "step 500;drift 0", 0, 0, 1);
         f.act(0);
         Check.due("HOME counts once", f.look(6), 1000000000);
+        DarkWood up = at("wide 3 4;home 1 3", "step 500;drift 0", 1, 3, 0);
+        for (int i = 0; i < 3; i++) {
+            up.act(0);
+        }
+        // 125 at HOME, 375 above it, then 375 and 125
+        up.post(0, 0, 0);
+        up.parish(0, 40);
+        Check.due("up, 0 steps", up.look(0), 125000000);
+        Check.due("up, 1 step", up.look(1), 500000000);
+        Check.due("up, 2 steps", up.look(2), 875000000);
+        Check.due("up, 3 steps", up.look(3), 1000000000);
         DarkWood g = at("wide 7 2;home 0 0", "step 1000", 6, 0, 1);
         Check.due("look(5)", g.look(5), 0);
         Check.due("look(6)", g.look(6), 1000000000);

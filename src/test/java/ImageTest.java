@@ -12,6 +12,7 @@ public final class ImageTest {
         posts();
         texts();
         fourOfThem();
+        lawsAndWays();
         Check.finish();
     }
 
@@ -112,6 +113,7 @@ public final class ImageTest {
         Check.due("columns are its own", d.odds(3, 3, ALL), 0);
         d.act(0);
         Check.due("its LAW", d.count(3), 4);
+        Check.due("its LAW, 250 of 1000, twice", d.odds(0, 2, ALL) > 0, true);
         Check.due("back to what came ahead of it", d.back(0), 4);
         same("gone back at last", asked(d), due);
     }
@@ -189,6 +191,36 @@ public final class ImageTest {
         Check.due("RULES stay", d.count(2), 1);
         Check.due("the TAPE stays", d.count(7), 7);
         Check.due("columns", d.wood(1, 0), 5);
+    }
+
+    /** What is asked of a WALK behind going back: its LAW, where it began, when it left the path. */
+    private static void lawsAndWays() {
+        DarkWood d = new DarkWood();
+        Check.text(d, 0, "wide 9 2;path 0 0 4 0");
+        Check.text(d, 1, "step 1000");
+        Check.text(d, 1, "step 0;drift 0");
+        d.walk(0, 0, 3, 0, 1);
+        d.act(0);
+        d.act(0);
+        d.act(0);
+        Check.due("left", d.left(1), 1);
+        d.image(0);
+        d.walk(0, 1, 5, 1, 2);
+        d.act(4);
+        d.image(1);
+        Check.due("left", d.left(1), 0);
+        Check.due("back", d.back(0), 3);
+        Check.due("left", d.left(1), 1);
+        Check.due("it began at 3, 0, looking right", d.remember(6, 0, 1000), 0);
+        d.act(0);
+        Check.due("by the first LAW", d.odds(7, 0, 1), 1000000000);
+        Check.due("back", d.back(1), 1);
+        Check.due("left", d.left(1), 0);
+        Check.due("it began at 5, 1", d.remember(5, 1, 1000), 0);
+        d.act(0);
+        d.act(1);
+        d.act(0);
+        Check.due("by the second LAW", d.odds(5, 1, 1), 1000000000);
     }
 
     private static void fourOfThem() {

@@ -21,6 +21,7 @@ public final class NightTest {
         nights();
         finest();
         wrong();
+        brinks();
         Check.finish();
     }
 
@@ -376,6 +377,46 @@ public final class NightTest {
             Check.due("alike from one seed", f.nights(2, 0, 0, 1, seed, 9, 5, 0), homes);
             Check.due("finest", f.finest(0, 0, 1, seed, 9, 5), homes > 0 ? 1 : 0);
         }
+    }
+
+    /** A seed behind which the DRAWS are by 1000 these, or below what is told as a number below 0. */
+    private static int seedFor(int... due) {
+        for (int seed = 0; seed < 200000000; seed++) {
+            seed(seed);
+            boolean all = true;
+            for (int i = 0; i < due.length && all; i++) {
+                int drawn = draw(1000);
+                all = due[i] < 0 ? drawn < -due[i] : drawn == due[i];
+            }
+            if (all) {
+                return seed;
+            }
+        }
+        Check.due("there is such a seed", false, true);
+        return 0;
+    }
+
+    /** The last DRAW that is below, and the first that isn't. */
+    private static void brinks() {
+        DarkWood d = at("wide 3 3;home 0 0;harm 300 2 1 2 1", "step 500;drift 100", "go");
+        int[] start = {1, 1, 0};
+        night("499", d, 0, start, seedFor(499), 1, 0, 1, 1, 0, 0);
+        night("500", d, 0, start, seedFor(500), 1, 0, 1, 0, 1, 3);
+        night("599", d, 0, start, seedFor(599), 1, 0, 1, 0, 1, 3);
+        night("600", d, 0, start, seedFor(600, 300), 1, 0, 1, 2, 1, 1);
+        night("699", d, 0, start, seedFor(699, 300), 1, 0, 1, 2, 1, 1);
+        night("700", d, 0, start, seedFor(700), 1, 0, 1, 1, 1, 0);
+        night("harm 299", d, 0, start, seedFor(650, 299), 1, 2, 1, 2, 1, 1);
+        night("harm 300", d, 0, start, seedFor(650, 300), 1, 0, 1, 2, 1, 1);
+        DarkWood e = at("wide 2 2;home 1 1;source 9 0 0;ground 3 0 0 1 1;sky 3 0 0 1 1", "feel 600;see 900;hear 500",
+                "left if ground=3 and steps=1;sit", "left if sky=3 and steps=1;sit", "left if loud=9 and steps=1;sit");
+        int[] still = {0, 0, 0};
+        night("felt 599", e, 0, still, seedFor(599), 2, 0, 2, 0, 0, 3);
+        night("felt 600", e, 0, still, seedFor(600), 2, 0, 2, 0, 0, 0);
+        night("seen 99", e, 1, still, seedFor(-600, 99), 2, 0, 2, 0, 0, 3);
+        night("seen 100", e, 1, still, seedFor(-600, 100), 2, 0, 2, 0, 0, 0);
+        night("heard 499", e, 2, still, seedFor(-600, -100, 499), 2, 0, 2, 0, 0, 3);
+        night("heard 500", e, 2, still, seedFor(-600, -100, 500), 2, 0, 2, 0, 0, 0);
     }
 
     private static void wrong() {

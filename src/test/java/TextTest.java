@@ -13,6 +13,7 @@ public final class TextTest {
         faultsOfRules();
         depths();
         parts();
+        oneBehindTheOther();
         Check.finish();
     }
 
@@ -188,7 +189,7 @@ public final class TextTest {
             {"wide 5 4"}, {" wide5 4 ; home 0 11"}, {"wide 2 12"}, {"wide 00002 00012"}, {"path 3 3 3 3"},
             {"harm 1000 0 0 11 11"}, {"ground 7 0 0 0 0;sky 9 0 0 0 0;harm 0 0 0 0 0"}, {"source 1 11 11"},
             {"wide", 4, 0}, {"wide 5", 6, 0}, {"wide 5 ", 7, 0}, {"wide 1 4", 5, 1}, {"wide 5 13", 7, 1},
-            {"wide 0 4", 5, 1}, {"wide 000005 4", 5, 1}, {"wide 99999999999999999999 4", 5, 1}, {"wide 5,4", 6, 0},
+            {"wide 0 4", 5, 1}, {"wide 5 1", 7, 1}, {"ground 0 0 0 0 0"}, {"wide 000005 4", 5, 1}, {"wide 99999999999999999999 4", 5, 1}, {"wide 5,4", 6, 0},
             {"wide -5 4", 5, 0}, {"wide x 4", 5, 0}, {"wide 5 4;", 9, 0}, {"wide 5 4;;", 9, 0}, {";wide 5 4", 0, 0},
             {"wide 5 4 3", 9, 0}, {"wide 5 4 wide 5 4", 9, 0}, {"wid 5 4", 0, 0}, {"widee 5 4", 0, 0}, {"Wide 5 4", 0, 0},
             {"wide 5 4;home 1 1 ; wide 5 4", 20, 4}, {"wide 5 4;wide", 9, 4}, {"home 1 1;home 1 1", 9, 4},
@@ -232,7 +233,7 @@ public final class TextTest {
             {"go"}, {"go;left;right;back;sit;strike"}, {"go if on>=500;left if sure<300;go"},
             {"go if on+at+sure+ground+sky+loud+steps+matches+eyes+path=0"}, {"go if not not 1<2"}, {many("sit", 12)},
             {"go if not[not[1<2]and 1<2]or 1<2"}, {"  strike  if  matches > 0  "},
-            {"go if", 5, 0}, {"sit;", 4, 0}, {"strike 1", 7, 0}, {"go left", 3, 0}, {"goo", 0, 0}, {"g", 0, 0}, {"go if harm<1", 6, 0},
+            {"go if", 5, 0}, {"sit;", 4, 0}, {"strike 1", 7, 0}, {"go left", 3, 0}, {"goo", 0, 0}, {"goz", 0, 0}, {"go{", 2, 0}, {"go`", 2, 0}, {"go if 1<2:", 9, 0}, {"go if 1</", 8, 0}, {"g", 0, 0}, {"go if harm<1", 6, 0},
             {"go if on", 8, 0}, {"go;if", 3, 0}, {"go if on<1;on", 11, 0}, {"go if on<go", 9, 0}, {"step 1", 0, 0}, {"1", 0, 0},
             {"go if on<123456", 9, 1}, {"go if on<12345"}, {"go if on < 00000"}, {"go if on < 000000", 11, 1},
             {many("sit", 13), 48, 4}, {many("sit", 12) + ";1", 48, 0}, {many("sit", 12) + " 1", 48, 0},
@@ -260,6 +261,45 @@ public final class TextTest {
             {"step 1 if " + deep("[", 10, "1<2", "]")}, {"step 1 if " + deep("[", 11, "1<2", "]"), 20, 2},
             {"step 1 if " + deep("not ", 11, "1<2", ""), 50, 2},
         });
+    }
+
+    /** What was told by a text with a FAULT, or by another text, is not told by the next one. */
+    private static void oneBehindTheOther() {
+        DarkWood d = new DarkWood();
+        String full = "wide 5 4;home 3 2;path 0 0 11 11;wall 0 0 1 1;ground 5 0 0 11 11;sky 5 0 0 11 11;harm 5 0 0 11 11;source 5 0 0";
+        Check.due("a FAULT", Check.text(d, 0, full + ";"), Check.fault(full.length() + 1, 0));
+        Check.due("no CELL", d.cell(0, 3, 2, 0), -2);
+        Check.due("no WOOD", d.wood(0, 0), -1);
+        Check.due("a LAW", Check.text(d, 1, "step 1"), 0);
+        Check.due("no WALK there", d.walk(0, 0, 3, 2, 0), false);
+        Check.due("a WOOD", Check.text(d, 0, "wall 11 11 11 11"), 0);
+        int[] none = {0, 0, 0, 0, 0, -1, -1, -1, -1};
+        for (int what = 0; what < 9; what++) {
+            Check.due("nothing of the FAULT's: " + what, d.cell(0, 1, 1, what), none[what]);
+        }
+        int[] wood = {12, 12, 0, 0, 0};
+        for (int what = 0; what < 5; what++) {
+            Check.due("nothing of the FAULT's: " + what, d.wood(0, what), wood[what]);
+        }
+        Check.due("no WALK there", d.walk(0, 1, 3, 2, 0), false);
+        Check.due("a WALK", d.walk(0, 0, 1, 1, 0), true);
+        String law = "step 100;drift 100;feel 100;see 100;hear 100";
+        Check.due("a FAULT", Check.text(d, 1, law + ";"), Check.fault(law.length() + 1, 0));
+        Check.due("a RULE between", Check.text(d, 2, "go if on>1"), 0);
+        Check.due("a LAW", Check.text(d, 1, "step harm+1000 if eyes=0"), 1);
+        Check.due("a WALK", d.walk(0, 1, 1, 1, 0), true);
+        d.act(0);
+        Check.due("by the new LAW alone", d.odds(1, 0, 0), 1000000000);
+        d.act(2);
+        d.act(0);
+        Check.due("900 without, drift 20", d.odds(2, 0, 1), 900000000);
+        Check.due("900 without, drift 20", d.odds(1, 1, 2), 20000000);
+        Check.due("60 VALUES", Check.text(d, 1, "step " + sum(60)), 2);
+        Check.due("and 60 more", Check.text(d, 1, "step " + sum(60)), 3);
+        Check.due("and 61", Check.text(d, 1, "step " + sum(61)), Check.fault(125, 3));
+        Check.due("a FAULT", Check.text(d, 2, "left;left;left;"), Check.fault(15, 0));
+        Check.due("a RULE", Check.text(d, 2, "right"), 1);
+        Check.due("by the new RULE alone", d.night(1, 1, 1, 0, 0, 1, 4), 1);
     }
 
     private static String sum(int values) {

@@ -19,6 +19,7 @@ public final class WalkTest {
         striking();
         refusals();
         totals();
+        corners();
         Check.finish();
     }
 
@@ -284,6 +285,15 @@ public final class WalkTest {
         DarkWood e = halves(";ground 3 0 0 0 1", "");
         Check.due("felt, 800 without", e.felt(0), 2);
         two("felt", e, 500000000L * 28 / 1000, 400000000);
+        for (int feel = 790; feel < 810; feel++) {
+            DarkWood one = halves(";ground 3 0 0 0 1", ";feel " + feel);
+            Check.due("felt", one.felt(3), 2);
+            two("feel " + feel, one, feel, (1000 - feel) / 7);
+        }
+        DarkWood up = at("wide 2 2;ground 1 0 0 0 0", "step 500;drift 0", 0, 1, 0);
+        up.act(0);
+        up.felt(1);
+        Check.due("looking up, in the corner", up.odds(0, 0, 0), 966183574);
         DarkWood f = halves(";ground 7 0 0 0 1", ";feel 1000");
         Check.due("felt", f.felt(7), 2);
         two("surely", f, 1, 0);
@@ -323,6 +333,19 @@ public final class WalkTest {
         Check.due("seen", e.seen(9), 46);
         two("seen with EYES 30", e, 1, 0);
         Check.due("refused", e.seen(3), -1);
+        DarkWood wide = halves(";sky 4 0 0 0 0", ";see 0");
+        Check.due("seen 10", wide.seen(10), -1);
+        Check.due("seen -1", wide.seen(-1), -1);
+        Check.due("ACTS", wide.count(3), 1);
+        for (int i = 0; i < 40; i++) {
+            wide.act(4);
+        }
+        DarkWood plain = halves(";sky 4 0 0 0 0", "");
+        for (int i = 0; i < 40; i++) {
+            plain.act(4);
+        }
+        Check.due("seen", plain.seen(4), 42);
+        two("800 without", plain, 800, 22);
         Check.due("seen 10", e.seen(10), -1);
         Check.due("seen -1", e.seen(-1), -1);
         Check.due("ACTS", e.count(3), 46);
@@ -370,6 +393,22 @@ public final class WalkTest {
         Check.due("0", h.heard(0, 0), 3);
         DarkWood i = halves("", "");
         Check.due("no SOURCE", i.heard(0, 0), -1);
+        DarkWood j = halves(";source 40 0 0", ";hear 100");
+        Check.due("heard 41", j.heard(0, 41), -1);
+        Check.due("heard -1", j.heard(0, -1), -1);
+        Check.due("heard of the next", j.heard(1, 40), -1);
+        Check.due("ACTS", j.count(3), 1);
+        Check.due("heard 38", j.heard(0, 38), 2);
+        two("11, 225", j, 11, 225);
+        DarkWood k = halves(";source 40 0 0", "");
+        Check.due("heard 40", k.heard(0, 40), 2);
+        two("800 without, 50", k, 800, 50);
+        DarkWood l = halves(";source 40 0 0", ";hear 40");
+        Check.due("heard 38", l.heard(0, 38), 2);
+        two("12, 240", l, 12, 240);
+        DarkWood m = halves(";source 40 0 0", ";hear 41");
+        Check.due("heard 38", m.heard(0, 38), 2);
+        two("11, 239", m, 11, 239);
     }
 
     private static void striking() {
@@ -396,6 +435,15 @@ public final class WalkTest {
         DarkWood e = halves(";path 1 0 1 0", "");
         Check.due("strike", e.strike(0, true), 8);
         two("shown", e, 0, 1);
+        // the least there can be is enough
+        DarkWood least = at("wide 4 2;ground 7 3 0 3 0;path 3 0 3 0", "step 1;drift 0", 0, 0, 1);
+        for (int i = 0; i < 3; i++) {
+            least.act(0);
+        }
+        Check.due("one of 1000000000", least.odds(3, 0, 1), 1);
+        Check.due("no such ground", least.strike(8, true), -1);
+        Check.due("shown", least.strike(7, true), 8);
+        Check.due("and he is there", least.odds(3, 0, 1), 1000000000);
         // thirds, downwards: what is lost stays lost
         DarkWood f = at("wide 3 2;ground 1 0 0 0 0", "step 500;drift 0", 0, 0, 1);
         f.act(0);
@@ -423,6 +471,31 @@ public final class WalkTest {
         Check.due("act -1", d.act(-1), -1);
         Check.due("ACTS", d.count(3), 0);
         Check.due("STEPS", d.count(4), 0);
+    }
+
+    /** The CELL farthest from the first one, and two LAWS one behind the other with EYES 30. */
+    private static void corners() {
+        DarkWood d = at("home 11 11;path 11 11 11 11;harm 500 11 11 11 11", "step 1000", 11, 11, 1);
+        int[] due = {1000000000, 1000000000, 1000000000, 11, 11, 500000000, 1000000000, 0, 1000000000, 0, 0};
+        for (int what = 0; what <= 10; what++) {
+            Check.due("all(" + what + ") in the corner", d.all(what), due[what]);
+        }
+        d.act(1);
+        Check.due("left", d.odds(11, 11, 0), 1000000000);
+        d.act(0);
+        Check.due("go", d.odds(11, 10, 0), 1000000000);
+        for (int i = 0; i < 40; i++) {
+            d.act(4);
+        }
+        d.act(0);
+        Check.due("go with EYES 30", d.odds(11, 9, 0), 1000000000);
+        Check.text(d, 1, "step 0;drift 0");
+        d.walk(0, 1, 11, 11, 0);
+        for (int i = 0; i < 40; i++) {
+            d.act(4);
+        }
+        d.act(0);
+        Check.due("the other LAW", d.odds(11, 11, 0), 1000000000);
     }
 
     private static void totals() {
