@@ -862,27 +862,6 @@ public final class DarkWood {
             return depth + 1;
         }
 
-        private void comparison() {
-            sum();
-            int compare = sign;
-            if (compare != '<' && compare != AT_MOST && compare != '=' && compare != AT_LEAST && compare != '>') {
-                refuse(CANT_STAND);
-                return;
-            }
-            countPart();
-            next();
-            sum();
-            if (compare == AT_MOST) {
-                into.add('>', 0);
-                into.add(NOT, 0);
-            } else if (compare == AT_LEAST) {
-                into.add('<', 0);
-                into.add(NOT, 0);
-            } else {
-                into.add(compare, 0);
-            }
-        }
-
         private void countPart() {
             if (parts >= MOST_PARTS) {
                 refuse(ONE_PART_TOO_MANY);
@@ -1288,7 +1267,7 @@ public final class DarkWood {
 
         // Which way one looks behind a left, right or back.
         static int turned(int way, int kind) {
-            int quarters = kind == LEFT ? 3 : kind == RIGHT ? 1 : 2;
+            int quarters = kind == BACK ? 2 : kind == LEFT ? 3 : 1;
             return (way + quarters) % WAYS;
         }
 
@@ -1517,7 +1496,7 @@ public final class DarkWood {
             long mostHomes = 0;
             long leastHarms = 0;
             for (int index = 0; index < 1 << 2 * n; index++) {
-                int level = index == 0 ? 0 : n - 1;
+                int level = n - 1;
                 for (int rest = index; level > 0 && (rest & 3) == 0; rest >>= 2) {
                     level--;
                 }

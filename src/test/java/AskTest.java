@@ -125,6 +125,16 @@ public final class AskTest {
         Check.due("soon(-1)", d.soon(-1), -1);
         Check.due("soon(MAX)", d.soon(Integer.MAX_VALUE), -1);
         Check.due("nothing happened", d.count(3), 0);
+        // each asked for itself: the WALK looks another way by now
+        DarkWood i = at("wide 3 2;home 2 0", "step 500;drift 0", 0, 0, 0);
+        Check.due("up at first", i.soon(3), 2);
+        i.act(3);
+        Check.due("down", i.soon(3), 1);
+        i.act(1);
+        Check.due("right", i.soon(3), 0);
+        Check.due("right", i.soon(2), 0);
+        i.act(3);
+        Check.due("left", i.soon(3), 3);
         // a way around with five ACTS: right, go, left, go, go is code 2 + 0 + 16 = 18
         DarkWood h = at("wide 3 3;home 1 0;wall 0 0 0 1", "step 1000", 0, 2, 0);
         Check.due("right, go, left, go, go", h.soon(5), 18);

@@ -297,9 +297,17 @@ public final class TextTest {
         Check.due("60 VALUES", Check.text(d, 1, "step " + sum(60)), 2);
         Check.due("and 60 more", Check.text(d, 1, "step " + sum(60)), 3);
         Check.due("and 61", Check.text(d, 1, "step " + sum(61)), Check.fault(125, 3));
+        for (int i = 0; i < 30; i++) {
+            Check.due("a FAULT", Check.text(d, 2, "left if " + sum(29) + "<" + sum(29) + ";right if ["), Check.fault(134, 0));
+            Check.due("a FAULT", Check.text(d, 1, "step " + sum(60) + ";"), Check.fault(125, 0));
+        }
         Check.due("a FAULT", Check.text(d, 2, "left;left;left;"), Check.fault(15, 0));
         Check.due("a RULE", Check.text(d, 2, "right"), 1);
         Check.due("by the new RULE alone", d.night(1, 1, 1, 0, 0, 1, 4), 1);
+        Check.due("a LAW", Check.text(d, 1, "step 100+harm if 1=1"), 4);
+        Check.due("a WALK", d.walk(0, 4, 1, 1, 1), true);
+        d.act(0);
+        Check.due("by this LAW", d.odds(2, 1, 1), 100000000);
     }
 
     private static String sum(int values) {

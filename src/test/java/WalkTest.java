@@ -183,12 +183,13 @@ public final class WalkTest {
         ahead("step 65536*65536*65536*65536+8", plain, 0, 8);
         String[] holds = {"1<2", "1<=1", "1<=2", "1=1", "1>=1", "2>=1", "2>1", "not 2<1", "not not 1=1", "[1=1]", "1=1 or 1=2",
             "1=2 or 1=1", "1=1 and 2=2", "1=2 and 1=2 or 1=1", "1=1 or 1=2 and 1=2", "not [1=1 and 1=2]", "[1=2 or 1=1]and 3=3",
-            "not 1=2 and 1=1", "1=1 or not 1=1 and 1=2", "0-1<0", "not[1=2 or 2=3]"};
+            "not 1=2 and 1=1", "1=2 or 1=2 or 1=1", "1=2 or 1=1 or 1=2", "1=1 or 1=2 or 1=2", "1=2 or 3+4=7", "1=1 and 2*3+4-1=9",
+            "1=2 or 1=2 and 1=1 or 1=1", "1=1 or not 1=1 and 1=2", "0-1<0", "not[1=2 or 2=3]"};
         for (String test : holds) {
             ahead("step 5 if " + test + ";step 6", plain, 0, 5);
         }
         String[] fails = {"2<1", "1<1", "2<=1", "1=2", "1>=2", "1>1", "1>2", "not 1=1", "not not 1=2", "[1=2]", "1=1 and 1=2",
-            "1=2 or 2=1", "[1=1 or 1=2] and 1=2", "not [1=1 or 1=2]", "not 1=2 and 1=2", "0-1>0", "not 1=1 or 1=2"};
+            "1=2 or 2=1", "[1=1 or 1=2] and 1=2", "not [1=1 or 1=2]", "not 1=2 and 1=2", "1=2 or 1=2 or 1=2", "1=2 or 3+4=8", "1=1 and 1=1 and 1=2", "0-1>0", "not 1=1 or 1=2"};
         for (String test : fails) {
             ahead("step 5 if " + test + ";step 6", plain, 0, 6);
         }
@@ -496,6 +497,14 @@ public final class WalkTest {
         }
         d.act(0);
         Check.due("the other LAW", d.odds(11, 11, 0), 1000000000);
+        // nothing of one WOOD's WEIGHTS comes to another one
+        DarkWood e = at("wide 3 3", "step 500;drift 100", 1, 1, 0);
+        Check.text(e, 0, "wide 3 3;wall 0 1 1 2;wall 1 0 2 0");
+        e.act(0);
+        e.walk(1, 0, 0, 0, 0);
+        Check.due("felt", e.felt(0), 1);
+        Check.due("all together", e.all(6), 1000000000);
+        Check.due("a wall", e.odds(1, 1, ALL), 0);
     }
 
     private static void totals() {
