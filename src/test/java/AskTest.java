@@ -26,21 +26,13 @@ public final class AskTest {
         Check.finish();
     }
 
-    private static DarkWood at(String wood, String law, int x, int y, int way) {
-        DarkWood d = new DarkWood();
-        Check.due(wood, Check.text(d, 0, wood), 0);
-        Check.due(law, Check.text(d, 1, law), 0);
-        Check.due("walk", d.walk(0, 0, x, y, way), true);
-        return d;
-    }
-
-    private static void row(DarkWood d, int n, int code, long homes, long harms) {
+    private static void row(Dark d, int n, int code, long homes, long harms) {
         Check.due("row(" + n + ", " + code + ", 0)", d.row(n, code, 0), homes);
         Check.due("row(" + n + ", " + code + ", 1)", d.row(n, code, 1), harms);
     }
 
     private static void rows() {
-        DarkWood d = at("wide 3 2;home 2 0", "step 500;drift 0", 0, 0, 1);
+        Dark d = Scene.at("wide 3 2;home 2 0", "step 500;drift 0", 0, 0, 1);
         row(d, 1, 0, 0, 0);
         row(d, 2, 0, 250000000, 0);
         row(d, 3, 0, 500000000, 0);
@@ -56,11 +48,11 @@ public final class AskTest {
         Check.due("nothing happened", d.count(3), 0);
         Check.due("nothing happened", d.odds(0, 0, 1), 1000000000);
         // what is at HOME at first counts, and is gone
-        DarkWood e = at("wide 2 2;home 0 0;harm 1000 0 0 0 0", "step 500;drift 0", 0, 0, 0);
+        Dark e = Scene.at("wide 2 2;home 0 0;harm 1000 0 0 0 0", "step 500;drift 0", 0, 0, 0);
         row(e, 1, 0, 1000000000, 0);
         row(e, 6, 0, 1000000000, 0);
         row(e, 6, 4095, 1000000000, 0);
-        DarkWood f = at("wide 2 2;home 0 0", "step 500;drift 0", 0, 0, 1);
+        Dark f = Scene.at("wide 2 2;home 0 0", "step 500;drift 0", 0, 0, 1);
         f.act(0);
         row(f, 1, 1, 500000000, 0);
         row(f, 2, 3, 750000000, 0);
@@ -75,50 +67,50 @@ public final class AskTest {
 
     private static void harmsOfRows() {
         // ahead of each go alone; HOME's harm is none, as what comes there is gone
-        DarkWood d = at("wide 3 2;home 2 0;harm 100 1 0 1 0;harm 1000 2 0 2 0", "step 500;drift 0", 0, 0, 1);
+        Dark d = Scene.at("wide 3 2;home 2 0;harm 100 1 0 1 0;harm 1000 2 0 2 0", "step 500;drift 0", 0, 0, 1);
         row(d, 1, 0, 0, 0);
         row(d, 2, 0, 250000000, 50000000);
         row(d, 3, 0, 500000000, 100000000);
         row(d, 2, 4, 0, 0);
         row(d, 3, 60, 0, 0);
         row(d, 3, 4, 0, 50000000);
-        DarkWood e = at("wide 3 2;home 2 0;harm 7 0 0 0 0", "step 0;drift 0", 0, 0, 1);
+        Dark e = Scene.at("wide 3 2;home 2 0;harm 7 0 0 0 0", "step 0;drift 0", 0, 0, 1);
         row(e, 4, 0, 0, 28000000);
         row(e, 4, 4 + 64, 0, 14000000);
     }
 
     private static void rowsAsTheWalkGoes() {
         // EYES go on in a ROW: at the second go they are 1, or more behind what was done
-        DarkWood d = at("wide 4 2;home 3 0", "step eyes*100;drift 0", 0, 0, 1);
+        Dark d = Scene.at("wide 4 2;home 3 0", "step eyes*100;drift 0", 0, 0, 1);
         row(d, 4, 0, 6000000, 0);
         for (int i = 0; i < 40; i++) {
             d.act(4);
         }
         row(d, 3, 0, 1000000000, 0);
         // drifting home to the left, to the right
-        DarkWood e = at("wide 3 2;home 1 0", "step 0;drift 300", 0, 0, 2);
+        Dark e = Scene.at("wide 3 2;home 1 0", "step 0;drift 300", 0, 0, 2);
         row(e, 1, 0, 300000000, 0);
-        DarkWood f = at("wide 3 2;home 1 0", "step 0;drift 300", 2, 0, 2);
+        Dark f = Scene.at("wide 3 2;home 1 0", "step 0;drift 300", 2, 0, 2);
         row(f, 1, 0, 300000000, 0);
         row(f, 2, 0, 510000000, 0);
     }
 
     private static void soon() {
-        DarkWood d = at("wide 3 2;home 2 0", "step 500;drift 0", 0, 0, 0);
+        Dark d = Scene.at("wide 3 2;home 2 0", "step 500;drift 0", 0, 0, 0);
         Check.due("soon(3)", d.soon(3), 2);
         Check.due("soon(4)", d.soon(4), 2);
         // nothing comes home: the least HARMS, then the least code
         Check.due("soon(2)", d.soon(2), 0);
         Check.due("soon(1)", d.soon(1), 0);
-        DarkWood e = at("wide 3 2;home 2 0;harm 1 0 0 0 0", "step 500;drift 0", 0, 0, 0);
+        Dark e = Scene.at("wide 3 2;home 2 0;harm 1 0 0 0 0", "step 500;drift 0", 0, 0, 0);
         Check.due("soon(1) with harm", e.soon(1), 1);
         Check.due("soon(2) with harm", e.soon(2), 5);
         Check.due("soon(3) with harm", e.soon(3), 2);
         // as much comes home by go, left as by left, go: then the harm ahead of the go is looked at
-        DarkWood f = at("wide 2 2;home 1 0", "step 1000;drift 0", 0, 0, 1);
+        Dark f = Scene.at("wide 2 2;home 1 0", "step 1000;drift 0", 0, 0, 1);
         Check.due("surely at once", f.soon(1), 0);
         Check.due("surely at once", f.soon(5), 0);
-        DarkWood g = at("wide 2 2;home 0 0", "step 1000", 0, 0, 1);
+        Dark g = Scene.at("wide 2 2;home 0 0", "step 1000", 0, 0, 1);
         Check.due("at HOME", g.soon(5), 0);
         Check.due("soon(0)", d.soon(0), -1);
         Check.due("soon(6)", d.soon(6), -1);
@@ -126,7 +118,7 @@ public final class AskTest {
         Check.due("soon(MAX)", d.soon(Integer.MAX_VALUE), -1);
         Check.due("nothing happened", d.count(3), 0);
         // each asked for itself: the WALK looks another way by now
-        DarkWood i = at("wide 3 2;home 2 0", "step 500;drift 0", 0, 0, 0);
+        Dark i = Scene.at("wide 3 2;home 2 0", "step 500;drift 0", 0, 0, 0);
         Check.due("up at first", i.soon(3), 2);
         i.act(3);
         Check.due("down", i.soon(3), 1);
@@ -136,13 +128,13 @@ public final class AskTest {
         i.act(3);
         Check.due("left", i.soon(3), 3);
         // a way around with five ACTS: right, go, left, go, go is code 2 + 0 + 16 = 18
-        DarkWood h = at("wide 3 3;home 1 0;wall 0 0 0 1", "step 1000", 0, 2, 0);
+        Dark h = Scene.at("wide 3 3;home 1 0;wall 0 0 0 1", "step 1000", 0, 2, 0);
         Check.due("right, go, left, go, go", h.soon(5), 18);
         Check.due("and so it comes home", h.row(5, 18, 0), 1000000000);
     }
 
     private static void left() {
-        DarkWood d = at("wide 4 2;path 0 0 1 0", "step 500;drift 0", 0, 0, 1);
+        Dark d = Scene.at("wide 4 2;path 0 0 1 0", "step 500;drift 0", 0, 0, 1);
         Check.due("no ACT yet", d.left(1000), -2);
         d.act(0);
         Check.due("on is 1000", d.left(1000), -2);
@@ -165,12 +157,12 @@ public final class AskTest {
         Check.due("left(-1)", d.left(-1), -1);
         d.walk(0, 0, 0, 0, 1);
         Check.due("another WALK", d.left(1000), -2);
-        DarkWood e = at("wide 4 2;path 0 0 0 0", "step 1000", 2, 0, 1);
+        Dark e = Scene.at("wide 4 2;path 0 0 0 0", "step 1000", 2, 0, 1);
         Check.due("begun beside it, but no ACT", e.left(1000), -2);
         e.act(4);
         Check.due("behind the first ACT", e.left(1), 0);
         // by 1000000, downwards: 999999999 is 999
-        DarkWood f = at("wide 3 2;path 0 0 2 1;ground 1 0 0 0 0", "step 500;drift 0", 0, 0, 1);
+        Dark f = Scene.at("wide 3 2;path 0 0 2 1;ground 1 0 0 0 0", "step 500;drift 0", 0, 0, 1);
         f.act(0);
         f.act(0);
         f.strike(0, true);
@@ -179,7 +171,7 @@ public final class AskTest {
     }
 
     private static void fork() {
-        DarkWood d = at("wide 3 3", "step 500;drift 100", 1, 1, 0);
+        Dark d = Scene.at("wide 3 3", "step 500;drift 100", 1, 1, 0);
         d.act(0);
         Check.due("all", d.fork(0, 0, 2, 2, ALL), 1000000000);
         Check.due("all, beyond the WOOD, too", d.fork(0, 0, 11, 11, ALL), 1000000000);
@@ -201,7 +193,7 @@ public final class AskTest {
     private static void remember() {
         // ground tells (0, 0), sky (1, 0) from the others, sound (2, 0)
         String wood = "wide 3 2;ground 1 0 0 0 0;sky 1 1 0 1 0;source 2 2 0";
-        DarkWood d = at(wood, "step 500;drift 0;feel 990;see 1000;hear 1000", 0, 0, 1);
+        Dark d = Scene.at(wood, "step 500;drift 0;feel 990;see 1000;hear 1000", 0, 0, 1);
         d.act(0);
         d.act(0);
         // 250 at (0, 0), 500 at (1, 0), 250 at (2, 0)
@@ -213,7 +205,7 @@ public final class AskTest {
         Check.due("other CELL, the least set", d.remember(1, 0, 500), 0);
         Check.due("other CELL", d.remember(1, 0, 501), -2);
         Check.due("beyond the odds", d.remember(0, 1, 1), -2);
-        DarkWood e = at(wood, "step 500;drift 0;feel 500;see 1000;hear 500", 0, 0, 1);
+        Dark e = Scene.at(wood, "step 500;drift 0;feel 500;see 1000;hear 500", 0, 0, 1);
         for (int i = 0; i < 2; i++) {
             e.act(0);
         }
@@ -232,7 +224,7 @@ public final class AskTest {
         }
         Check.due("nothing happened", e.count(3), 4);
         // fewest, then least as a number: seen alone (2) ahead of felt and heard (5)
-        DarkWood f = at(wood, "step 500;drift 0;feel 600;see 1000;hear 600", 0, 0, 1);
+        Dark f = Scene.at(wood, "step 500;drift 0;feel 600;see 1000;hear 600", 0, 0, 1);
         for (int i = 0; i < 2; i++) {
             f.act(0);
         }
@@ -249,7 +241,7 @@ public final class AskTest {
     private static void rememberMatches() {
         // without the match he sits, and EYES go on: then seeing would tell more
         String wood = "wide 2 2;path 0 0 0 0;sky 1 0 0 0 0";
-        DarkWood d = at(wood, "step 500;drift 0;see 1000", 0, 0, 1);
+        Dark d = Scene.at(wood, "step 500;drift 0;see 1000", 0, 0, 1);
         for (int i = 0; i < 29; i++) {
             d.act(4);
         }
@@ -262,7 +254,7 @@ public final class AskTest {
         Check.due("seen without the match: EYES 30", d.remember(0, 0, 1000), 2);
         Check.due("STEPS", d.count(4), 31);
         // by a LAW of EYES the sit tells: 1 more of them than 0 behind the match
-        DarkWood e = at("wide 4 2", "step 300*eyes;drift 0", 0, 0, 1);
+        Dark e = Scene.at("wide 4 2", "step 300*eyes;drift 0", 0, 0, 1);
         e.strike(0, false);
         e.act(0);
         Check.due("with the match he stays", e.odds(0, 0, ALL), 1000000000);
@@ -275,7 +267,7 @@ public final class AskTest {
     private static void rememberRefused() {
         // the second felt is right of (1, 0) alone, wherever he was told to be ahead of it
         String wood = "wide 2 2;ground 1 0 0 0 0";
-        DarkWood d = at(wood, "step 500;drift 0;feel 1000", 0, 0, 1);
+        Dark d = Scene.at(wood, "step 500;drift 0;feel 1000", 0, 0, 1);
         d.act(0);
         d.felt(1);
         d.act(0);
@@ -285,7 +277,7 @@ public final class AskTest {
         Check.due("with none", d.remember(1, 0, 750), 0);
         Check.due("with felt", d.remember(1, 0, 751), 1);
         // seen tells nothing that felt didn't
-        DarkWood e = at("wide 2 2;ground 1 1 0 1 0;path 1 0 1 0;sky 1 1 0 1 0", "step 500;drift 0;feel 1000;see 1000", 0, 0, 1);
+        Dark e = Scene.at("wide 2 2;ground 1 1 0 1 0;path 1 0 1 0;sky 1 1 0 1 0", "step 500;drift 0;feel 1000;see 1000", 0, 0, 1);
         e.act(0);
         for (int i = 0; i < 29; i++) {
             e.act(4);
@@ -302,7 +294,7 @@ public final class AskTest {
     private static void rememberSits() {
         // Without the felt ones the second match finds nothing (a thousandth of a thousandth .. of it), and is a sit:
         // EYES are 5 then, but with neither match they are 6, and with all of it 0.
-        DarkWood d = at("wide 6 2;ground 1 1 0 1 0;ground 2 2 0 2 0;ground 3 3 0 3 0;ground 4 4 0 4 0",
+        Dark d = Scene.at("wide 6 2;ground 1 1 0 1 0;ground 2 2 0 2 0;ground 3 3 0 3 0;ground 4 4 0 4 0",
                 "step 500 if eyes=5;step 1;drift 0;feel 1000", 0, 0, 1);
         Check.due("strike", d.strike(0, false), 8);
         for (int ground = 1; ground < 4; ground++) {
@@ -319,7 +311,7 @@ public final class AskTest {
 
     /** Each of the four sorts tells what the others don't: nothing less than all of them is enough. */
     private static void rememberAll() {
-        DarkWood d = at("wide 5 2;ground 1 3 0 4 1;sky 1 0 0 3 1;path 0 0 4 1;source 6 1 0",
+        Dark d = Scene.at("wide 5 2;ground 1 3 0 4 1;sky 1 0 0 3 1;path 0 0 4 1;source 6 1 0",
                 "step 500;drift 0;feel 700;see 600;hear 600", 1, 0, 1);
         for (int i = 0; i < 12; i++) {
             d.act(4);
@@ -345,7 +337,7 @@ public final class AskTest {
     }
 
     private static void tells() {
-        DarkWood first = at("wide 2 2;path 0 0 0 0;path 1 1 1 1", "step 500;drift 0", 0, 0, 1);
+        Dark first = Scene.at("wide 2 2;path 0 0 0 0;path 1 1 1 1", "step 500;drift 0", 0, 0, 1);
         Check.due("tells at (0, 0)", first.tells(), 1000000000);
         first.act(0);
         Check.due("with a path and without", first.tells(), 1000000000);
@@ -353,20 +345,20 @@ public final class AskTest {
         first.act(0);
         // 250 at (0, 0) and (1, 1), with a path; 250 at (1, 0) and (0, 1), without
         Check.due("the most of each", first.tells(), 500000000);
-        DarkWood d = at("wide 3 3", "step 500;drift 100", 1, 1, 0);
+        Dark d = Scene.at("wide 3 3", "step 500;drift 100", 1, 1, 0);
         Check.due("surely", d.tells(), 1000000000);
         d.act(0);
         Check.due("all alike", d.tells(), 500000000);
-        DarkWood e = at("wide 3 3;path 1 0 1 0;ground 7 0 1 0 1;ground 3 2 1 2 1;path 2 1 2 1", "step 500;drift 100", 1, 1, 0);
+        Dark e = Scene.at("wide 3 3;path 1 0 1 0;ground 7 0 1 0 1;ground 3 2 1 2 1;path 2 1 2 1", "step 500;drift 100", 1, 1, 0);
         e.act(0);
         Check.due("each its own", e.tells(), 1000000000);
-        DarkWood f = at("wide 3 3;path 1 0 1 1;ground 7 0 1 0 1;ground 7 2 1 2 1", "step 500;drift 100", 1, 1, 0);
+        Dark f = Scene.at("wide 3 3;path 1 0 1 1;ground 7 0 1 0 1;ground 7 2 1 2 1", "step 500;drift 100", 1, 1, 0);
         f.act(0);
         Check.due("the most of each", f.tells(), 600000000);
     }
 
     private static void aim() {
-        DarkWood d = at("wide 5 5", "step 500;drift 100", 2, 2, 1);
+        Dark d = Scene.at("wide 5 5", "step 500;drift 100", 2, 2, 1);
         d.act(0);
         // columns: 500 at 2 (300 stays, 100 each aside), 500 at 3; rows: 100 at 1, 800 at 2, 100 at 3
         int[][] due = {
@@ -381,15 +373,15 @@ public final class AskTest {
         for (int[] one : wrong) {
             Check.due("aim without these", d.aim(one[0], one[1], one[2]), -1);
         }
-        DarkWood corner = at("home 0 0", "step 0", 11, 11, 1);
+        Dark corner = Scene.at("home 0 0", "step 0", 11, 11, 1);
         Check.due("in the corner", corner.aim(0, 10, 1000), 0);
         Check.due("in the corner", corner.aim(1, 10, 1000), 0);
         Check.due("in the corner", corner.aim(1, 11, 1000), 1);
-        DarkWood e = at("wide 3 2", "step 500;drift 0", 0, 0, 1);
+        Dark e = Scene.at("wide 3 2", "step 500;drift 0", 0, 0, 1);
         Check.due("the twelfth", e.aim(0, 11, 1000), 12);
         Check.due("the twelfth", e.aim(1, 11, 1000), 12);
         // 999999999 together are 999, and never 1000
-        DarkWood f = at("wide 3 2;ground 1 0 0 0 0", "step 500;drift 0", 0, 0, 1);
+        Dark f = Scene.at("wide 3 2;ground 1 0 0 0 0", "step 500;drift 0", 0, 0, 1);
         f.act(0);
         f.act(0);
         f.strike(0, false);
@@ -398,7 +390,7 @@ public final class AskTest {
     }
 
     private static void look() {
-        DarkWood d = at("wide 5 5;home 2 2;wall 1 2 1 2", "step 500;drift 100", 2, 3, 0);
+        Dark d = Scene.at("wide 5 5;home 2 2;wall 1 2 1 2", "step 500;drift 100", 2, 3, 0);
         d.act(0);
         // 500 at HOME (2, 2), 300 at (2, 3), 100 at (1, 3) and (3, 3)
         Check.due("look(0)", d.look(0), 500000000);
@@ -409,13 +401,13 @@ public final class AskTest {
         Check.due("look(6)", d.look(6), 1000000000);
         Check.due("look(7)", d.look(7), -1);
         Check.due("look(-1)", d.look(-1), -1);
-        DarkWood e = at("wide 5 2;home 0 0;wall 1 0 1 1", "step 500", 2, 0, 1);
+        Dark e = Scene.at("wide 5 2;home 0 0;wall 1 0 1 1", "step 500", 2, 0, 1);
         e.act(0);
         Check.due("behind a wall", e.look(6), 0);
-        DarkWood f = at("wide 2 2;home 0 0", "step 500;drift 0", 0, 0, 1);
+        Dark f = Scene.at("wide 2 2;home 0 0", "step 500;drift 0", 0, 0, 1);
         f.act(0);
         Check.due("HOME counts once", f.look(6), 1000000000);
-        DarkWood up = at("wide 3 4;home 1 3", "step 500;drift 0", 1, 3, 0);
+        Dark up = Scene.at("wide 3 4;home 1 3", "step 500;drift 0", 1, 3, 0);
         for (int i = 0; i < 3; i++) {
             up.act(0);
         }
@@ -426,20 +418,20 @@ public final class AskTest {
         Check.due("up, 1 step", up.look(1), 500000000);
         Check.due("up, 2 steps", up.look(2), 875000000);
         Check.due("up, 3 steps", up.look(3), 1000000000);
-        DarkWood g = at("wide 7 2;home 0 0", "step 1000", 6, 0, 1);
+        Dark g = Scene.at("wide 7 2;home 0 0", "step 1000", 6, 0, 1);
         Check.due("look(5)", g.look(5), 0);
         Check.due("look(6)", g.look(6), 1000000000);
     }
 
     private static void post() {
-        DarkWood d = new DarkWood();
+        Dark d = new Dark();
         Check.due("post", d.post(0, 0, 0), true);
         Check.due("post", d.post(7, 11, 11), true);
         int[][] wrong = {{8, 0, 0}, {-1, 0, 0}, {0, 12, 0}, {0, 0, 12}, {0, -1, 0}, {0, 0, -1}};
         for (int[] one : wrong) {
             Check.due("post without these", d.post(one[0], one[1], one[2]), false);
         }
-        Check.text(d, 0, "path 0 0 0 0;path 11 11 11 11");
+        Scene.text(d, 0, "path 0 0 0 0;path 11 11 11 11");
         Check.due("both", d.parish(0, 0), 129);
         d.post(0, 3, 0);
         Check.due("in place of what it was", d.parish(0, 0), -2);
@@ -449,9 +441,9 @@ public final class AskTest {
     }
 
     private static void parish() {
-        DarkWood d = new DarkWood();
-        Check.text(d, 0, "wide 6 3;path 0 0 5 0;path 1 2 1 2;wall 1 1 1 2;wall 4 0 4 0");
-        Check.text(d, 0, "wide 2 2");
+        Dark d = new Dark();
+        Scene.text(d, 0, "wide 6 3;path 0 0 5 0;path 1 2 1 2;wall 1 1 1 2;wall 4 0 4 0");
+        Scene.text(d, 0, "wide 2 2");
         Check.due("without POSTS", d.parish(0, 40), -2);
         Check.due("without a path", d.parish(1, 0), 0);
         d.post(0, 11, 0);
@@ -482,7 +474,7 @@ public final class AskTest {
     }
 
     private static void withoutAWalk() {
-        DarkWood d = new DarkWood();
+        Dark d = new Dark();
         for (int i = 0; i < 2; i++) {
             Check.due("row", d.row(1, 0, 0), -1);
             Check.due("soon", d.soon(1), -1);
@@ -492,8 +484,8 @@ public final class AskTest {
             Check.due("tells", d.tells(), -1);
             Check.due("aim", d.aim(0, 0, 1), -1);
             Check.due("look", d.look(0), -1);
-            Check.text(d, 0, "wide 2 2");
-            Check.text(d, 1, "see 1");
+            Scene.text(d, 0, "wide 2 2");
+            Scene.text(d, 1, "see 1");
         }
     }
 }

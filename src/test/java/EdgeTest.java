@@ -10,7 +10,7 @@ public final class EdgeTest {
         for (int state = 0; state < 6; state++) {
             for (int a = 0; a < FAR.length; a++) {
                 for (int b = 0; b < FAR.length; b += 3) {
-                    DarkWood d = inState(state);
+                    Dark d = inState(state);
                     for (int turn = 0; turn < 9; turn++) {
                         all(d, FAR[a], FAR[b], turn);
                     }
@@ -23,16 +23,16 @@ public final class EdgeTest {
         Check.finish();
     }
 
-    private static DarkWood inState(int state) {
-        DarkWood d = new DarkWood();
+    private static Dark inState(int state) {
+        Dark d = new Dark();
         if (state > 0) {
-            Check.text(d, 0, "wide 3 2;home 2 1;path 0 0 2 0;harm 5 0 0 2 1;source 3 1 1");
+            Scene.text(d, 0, "wide 3 2;home 2 1;path 0 0 2 0;harm 5 0 0 2 1;source 3 1 1");
         }
         if (state > 1) {
-            Check.text(d, 1, "step 700-harm;feel 700");
+            Scene.text(d, 1, "step 700-harm;feel 700");
         }
         if (state > 2) {
-            Check.text(d, 2, "go if on>300;strike if matches>3;left");
+            Scene.text(d, 2, "go if on>300;strike if matches>3;left");
         }
         if (state > 3) {
             d.walk(0, 0, 0, 0, 1);
@@ -41,7 +41,7 @@ public final class EdgeTest {
         if (state > 4) {
             d.post(0, 1, 1);
             d.image(0);
-            for (int i = 0; i < 250; i++) {
+            for (int i = 0; i < 205; i++) {
                 d.act(i % 5);
             }
         }
@@ -49,7 +49,7 @@ public final class EdgeTest {
     }
 
     /** Each call with one number far off at one place, and another one at the others. */
-    private static void all(DarkWood d, int far, int other, int turn) {
+    private static void all(Dark d, int far, int other, int turn) {
         int[] a = new int[9];
         for (int i = 0; i < 9; i++) {
             a[i] = i == turn ? far : other;
@@ -90,41 +90,41 @@ public final class EdgeTest {
         String[] texts = {"wide 5 4;harm 7 0 0 1 1;source 1 2 3", "step 5*eyes if not[path=1 or 2<=sky];see 7", "go if on>=5 and 1<2;sit"};
         for (int sort = 0; sort < 3; sort++) {
             for (int at = 0; at < texts[sort].length(); at++) {
-                DarkWood d = new DarkWood();
+                Dark d = new Dark();
                 for (int one = 0; one < 256; one++) {
                     String text = texts[sort].substring(0, at) + (char) one + texts[sort].substring(at + 1);
-                    int answer = Check.text(d, sort, text);
+                    int answer = Scene.text(d, sort, text);
                     Check.due("a number or a FAULT: " + text, answer >= -2 - 1 - 8 * 400 - 4 && answer != -2, true);
                     if (answer < -2) {
                         int place = (-2 - answer - 1) / 8;
                         Check.due("a place: " + text, place <= text.length(), true);
                     }
-                    if (d.count(sort) == (sort == 0 ? 4 : 6)) {
-                        d = new DarkWood();
+                    if (d.count(sort) == (sort == 0 ? 4 : 6) || d.rest() < 30) {
+                        d = new Dark();
                     }
                 }
             }
         }
-        DarkWood d = new DarkWood();
-        Check.text(d, 2, "[".repeat(400));
-        Check.text(d, 2, "go if " + "[".repeat(394));
-        Check.text(d, 2, "go if " + "not ".repeat(98));
-        Check.text(d, 1, "step " + "1+".repeat(197));
-        Check.text(d, 1, "step 1 if " + "1<1 or ".repeat(50));
-        Check.text(d, 0, "9".repeat(400));
-        Check.text(d, 0, ";".repeat(400));
-        Check.text(d, 0, "a".repeat(400));
-        Check.text(d, 0, " ".repeat(400));
+        Dark d = new Dark();
+        Scene.text(d, 2, "[".repeat(400));
+        Scene.text(d, 2, "go if " + "[".repeat(394));
+        Scene.text(d, 2, "go if " + "not ".repeat(98));
+        Scene.text(d, 1, "step " + "1+".repeat(197));
+        Scene.text(d, 1, "step 1 if " + "1<1 or ".repeat(50));
+        Scene.text(d, 0, "9".repeat(400));
+        Scene.text(d, 0, ";".repeat(400));
+        Scene.text(d, 0, "a".repeat(400));
+        Scene.text(d, 0, " ".repeat(400));
         Check.due("none stood", d.count(0) + d.count(1) + d.count(2), 0);
     }
 
     /** The dearest calls end in good time: 512 of them, in a full WOOD. */
     private static void dearest() {
-        DarkWood d = new DarkWood();
-        Check.text(d, 0, "harm 1 0 0 11 11;path 0 0 11 5;source 30 5 5");
-        Check.text(d, 1, "step 800-eyes;drift 100;feel 300;see 300;hear 300");
+        Dark d = new Dark();
+        Scene.text(d, 0, "harm 1 0 0 11 11;path 0 0 11 5;source 30 5 5");
+        Scene.text(d, 1, "step 800-eyes;drift 100;feel 300;see 300;hear 300");
         for (int i = 0; i < 6; i++) {
-            Check.text(d, 2, "go if sure<" + (i + 5) + ";left if eyes>3;strike if on<900;go");
+            Scene.text(d, 2, "go if sure<" + (i + 5) + ";left if eyes>3;strike if on<900;go");
         }
         d.walk(0, 0, 11, 11, 0);
         for (int i = 0; i < 200; i++) {

@@ -17,16 +17,16 @@ public final class ImageTest {
     }
 
     private static void counts() {
-        DarkWood d = new DarkWood();
+        Dark d = new Dark();
         int[] before = {0, 0, 0, -1, -1, -1, -1, 0};
         for (int what = 0; what < 8; what++) {
             Check.due("count(" + what + ")", d.count(what), before[what]);
         }
-        Check.text(d, 0, "wide 2 2");
-        Check.text(d, 0, "wide 2 3");
-        Check.text(d, 1, "see 1");
+        Scene.text(d, 0, "wide 2 2");
+        Scene.text(d, 0, "wide 2 3");
+        Scene.text(d, 1, "see 1");
         for (int i = 0; i < 3; i++) {
-            Check.text(d, 2, "go");
+            Scene.text(d, 2, "go");
         }
         d.walk(0, 0, 0, 0, 0);
         d.act(4);
@@ -46,15 +46,15 @@ public final class ImageTest {
     }
 
     private static void nothingYet() {
-        DarkWood d = new DarkWood();
+        Dark d = new Dark();
         Check.due("back to none", d.back(0), -1);
         Check.due("image(4)", d.image(4), -1);
         Check.due("image(-1)", d.image(-1), -1);
         Check.due("back(4)", d.back(4), -1);
         Check.due("back(-1)", d.back(-1), -1);
         Check.due("image of nothing", d.image(2), 0);
-        Check.text(d, 0, "wide 2 2");
-        Check.text(d, 1, "see 1");
+        Scene.text(d, 0, "wide 2 2");
+        Scene.text(d, 1, "see 1");
         d.walk(0, 0, 1, 1, 0);
         d.act(0);
         Check.due("back to another", d.back(1), -1);
@@ -76,12 +76,12 @@ public final class ImageTest {
     }
 
     private static void walks() {
-        DarkWood d = new DarkWood();
-        Check.text(d, 0, "wide 3 2;path 0 0 0 1;home 2 0");
-        Check.text(d, 0, "wide 4 4;home 3 3;source 5 0 0");
-        Check.text(d, 1, "step 500;drift 0");
-        Check.text(d, 1, "step 250;drift 0");
-        Check.text(d, 2, "go");
+        Dark d = new Dark();
+        Scene.text(d, 0, "wide 3 2;path 0 0 0 1;home 2 0");
+        Scene.text(d, 0, "wide 4 4;home 3 3;source 5 0 0");
+        Scene.text(d, 1, "step 500;drift 0");
+        Scene.text(d, 1, "step 250;drift 0");
+        Scene.text(d, 2, "go");
         d.walk(0, 0, 0, 0, 1);
         d.act(0);
         d.strike(0, true);
@@ -119,7 +119,7 @@ public final class ImageTest {
     }
 
     /** What is asked of a WALK, so as to see all of it. */
-    private static long[] asked(DarkWood d) {
+    private static long[] asked(Dark d) {
         long[] all = new long[60];
         int at = 0;
         for (int what = 3; what < 7; what++) {
@@ -152,8 +152,8 @@ public final class ImageTest {
     }
 
     private static void posts() {
-        DarkWood d = new DarkWood();
-        Check.text(d, 0, "wide 3 2;path 0 0 2 0");
+        Dark d = new Dark();
+        Scene.text(d, 0, "wide 3 2;path 0 0 2 0");
         d.image(0);
         d.post(3, 1, 0);
         d.image(1);
@@ -168,21 +168,21 @@ public final class ImageTest {
         Check.due("the IMAGE stays", d.parish(0, 1), 8);
         d.back(0);
         Check.due("no POSTS", d.parish(0, 1), -2);
-        Check.text(d, 1, "see 1");
+        Scene.text(d, 1, "see 1");
         d.post(0, 1, 0);
         d.walk(0, 0, 0, 0, 0);
         Check.due("POSTS stay with another WALK", d.parish(0, 1), 1);
     }
 
     private static void texts() {
-        DarkWood d = new DarkWood();
-        Check.text(d, 0, "wide 3 2");
+        Dark d = new Dark();
+        Scene.text(d, 0, "wide 3 2");
         d.feed(1, 2, 3, 4, 5);
         d.image(0);
         d.end(0);
-        Check.text(d, 0, "wide 5 5");
-        Check.text(d, 1, "see 1");
-        Check.text(d, 2, "sit");
+        Scene.text(d, 0, "wide 5 5");
+        Scene.text(d, 1, "see 1");
+        Scene.text(d, 2, "sit");
         d.feed(1, 2, 3, 4, 5);
         d.end(7);
         Check.due("back", d.back(0), 0);
@@ -195,10 +195,10 @@ public final class ImageTest {
 
     /** What is asked of a WALK behind going back: its LAW, where it began, when it left the path. */
     private static void lawsAndWays() {
-        DarkWood d = new DarkWood();
-        Check.text(d, 0, "wide 9 2;path 0 0 4 0");
-        Check.text(d, 1, "step 1000");
-        Check.text(d, 1, "step 0;drift 0");
+        Dark d = new Dark();
+        Scene.text(d, 0, "wide 9 2;path 0 0 4 0");
+        Scene.text(d, 1, "step 1000");
+        Scene.text(d, 1, "step 0;drift 0");
         d.walk(0, 0, 3, 0, 1);
         d.act(0);
         d.act(0);
@@ -224,9 +224,9 @@ public final class ImageTest {
     }
 
     private static void fourOfThem() {
-        DarkWood d = new DarkWood();
-        Check.text(d, 0, "wide 3 2");
-        Check.text(d, 1, "see 1");
+        Dark d = new Dark();
+        Scene.text(d, 0, "wide 3 2");
+        Scene.text(d, 1, "see 1");
         d.walk(0, 0, 0, 0, 0);
         for (int k = 0; k < 4; k++) {
             Check.due("image(" + k + ")", d.image(k), k);

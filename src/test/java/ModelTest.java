@@ -3,7 +3,7 @@ import java.util.Random;
 /** Random runs, always the same ones, on the class and on the Model: each answer must be the same. */
 public final class ModelTest {
     private final Random random;
-    private final DarkWood class1 = new DarkWood();
+    private final Dark class1 = new Dark();
     private final Model model = new Model();
     private final String name;
     // Sizes of what stands, for arguments that mostly fit.
@@ -16,10 +16,10 @@ public final class ModelTest {
     }
 
     public static void main(String[] args) {
-        for (int seed = 0; seed < 160; seed++) {
+        for (int seed = 0; seed < 1200; seed++) {
             new ModelTest(seed).run();
         }
-        for (int seed = 1000; seed < 3000; seed++) {
+        for (int seed = 10000; seed < 12000; seed++) {
             new ModelTest(seed).texts();
         }
         Check.finish();
@@ -166,7 +166,7 @@ public final class ModelTest {
 
     private void tell(int sort, String told) {
         String text = told.length() > 400 ? told.substring(0, 400) : told;
-        Check.feed(class1, text);
+        Scene.feed(class1, text);
         for (int at = 0; at < text.length(); at += 20) {
             int[] five = new int[5];
             for (int i = 0; i < 20 && at + i < text.length(); i++) {
@@ -210,8 +210,8 @@ public final class ModelTest {
         for (int i = 0; i < 40 && model.count(3) < 0; i++) {
             walk();
         }
-        for (int calls = 0; calls < 400; calls++) {
-            if (below(40) == 0) {
+        while (class1.rest() > 45) {
+            if (below(60) == 0) {
                 text(below(3));
             } else if (below(60) == 0) {
                 walk();
@@ -264,17 +264,20 @@ public final class ModelTest {
                 due("back(" + k + ")", class1.back(k), model.back(k));
             }
         }
-        everything();
+        if (below(3) == 0) {
+            lookAround();
+        }
     }
 
-    private void everything() {
-        for (int what = -1; what <= 11; what++) {
+    /** Some of what can be asked at once; the next ACTS show the rest. */
+    private void lookAround() {
+        for (int i = 0; i < 3; i++) {
+            int what = about(0, 10);
             due("all(" + what + ")", class1.all(what), model.all(what));
         }
-        for (int what = -1; what <= 8; what++) {
-            due("count(" + what + ")", class1.count(what), model.count(what));
-        }
-        for (int i = 0; i < 6; i++) {
+        int number = about(3, 6);
+        due("count(" + number + ")", class1.count(number), model.count(number));
+        for (int i = 0; i < 3; i++) {
             int x = about(0, columns - 1);
             int y = about(0, rows - 1);
             int way = about(-1, 3);

@@ -34,19 +34,19 @@ public final class NightTest {
         return (int) (x / 65536 % rest);
     }
 
-    private static DarkWood at(String wood, String law, String... rules) {
-        DarkWood d = new DarkWood();
-        Check.due(wood, Check.text(d, 0, wood), 0);
-        Check.due(law, Check.text(d, 1, law), 0);
+    private static Dark at(String wood, String law, String... rules) {
+        Dark d = new Dark();
+        Check.due(wood, Scene.text(d, 0, wood), 0);
+        Check.due(law, Scene.text(d, 1, law), 0);
         for (int i = 0; i < rules.length; i++) {
-            Check.due(rules[i], Check.text(d, 2, rules[i]), i);
+            Check.due(rules[i], Scene.text(d, 2, rules[i]), i);
         }
         int home = d.wood(0, 2);
         Check.due("walk", d.walk(0, 0, home, d.wood(0, 3), 0), true);
         return d;
     }
 
-    private static void night(String when, DarkWood d, int rule, int[] start, int seed, int n, int... due) {
+    private static void night(String when, Dark d, int rule, int[] start, int seed, int n, int... due) {
         for (int what = 0; what < due.length; what++) {
             String call = when + ": night(" + rule + ", .., " + seed + ", " + n + ", " + what + ")";
             Check.due(call, d.night(rule, start[0], start[1], start[2], seed, n, what), due[what]);
@@ -54,7 +54,7 @@ public final class NightTest {
     }
 
     private static void home() {
-        DarkWood d = at("wide 5 2;home 4 0", "step 1000", "go", "sit", "left;go", "strike;go");
+        Dark d = at("wide 5 2;home 4 0", "step 1000", "go", "sit", "left;go", "strike;go");
         int[] start = {0, 0, 1};
         night("straight home", d, 0, start, 7, 99, 1, 4, 4, 0, 1, 9, 1000);
         night("at the last round", d, 0, start, 7, 4, 1, 4, 4, 0, 1, 9, 1000);
@@ -66,28 +66,31 @@ public final class NightTest {
         Check.due("the WALK stays", d.count(3), 0);
         Check.due("the WALK stays", d.odds(4, 0, 0), 1000000000);
         // harm at HOME is none
-        DarkWood e = at("wide 2 2;home 1 0;harm 1000 1 0 1 0", "step 1000", "go");
+        Dark e = at("wide 2 2;home 1 0;harm 1000 1 0 1 0", "step 1000", "go");
         night("HOME ahead of harm", e, 0, new int[] {0, 0, 1}, 5, 9, 1, 1, 1, 0, 1, 9, 1000);
     }
 
     private static void neither() {
-        DarkWood d = at("wide 5 3;home 4 2;wall 2 0 2 0", "step 1000", "go");
+        Dark d = at("wide 5 3;home 4 2;wall 2 0 2 0", "step 1000", "go");
         night("two rounds", d, 0, new int[] {0, 1, 1}, 1, 2, 0, 2, 2, 1, 1, 9, 1000);
         night("a wall", d, 0, new int[] {0, 0, 1}, 1, 50, 0, 50, 1, 0, 1, 9, 1000);
         night("the end", d, 0, new int[] {0, 0, 0}, 1, 3, 0, 3, 0, 0, 0, 9, 1000);
     }
 
     private static void fallen() {
-        DarkWood d = at("wide 5 2;home 4 0;harm 1000 2 0 2 0;harm 1000 0 1 0 1", "step 1000", "go", "sit", "left", "strike");
+        Dark d = at("wide 5 2;home 4 0;harm 1000 2 0 2 0;harm 1000 0 1 0 1", "step 1000", "go", "sit", "left", "strike");
         night("harm", d, 0, new int[] {0, 0, 1}, 9, 99, 2, 2, 2, 0, 1, 9, 1000);
         night("harm where he stays", d, 0, new int[] {0, 1, 2}, 9, 99, 2, 1, 0, 1, 2, 9, 1000);
         night("no go, no fall", d, 1, new int[] {0, 1, 1}, 9, 99, 0, 99, 0, 1, 1, 9, 1000);
         night("no go, no fall", d, 2, new int[] {0, 1, 1}, 9, 9, 0, 9, 0, 1, 0, 9, 1000);
         night("no go, no fall", d, 3, new int[] {0, 1, 1}, 9, 9, 0, 9, 0, 1, 1, 0, 1000);
         // a draw for the go, one for the harm
-        DarkWood e = at("wide 3 3;home 2 2;harm 300 0 0 2 2", "step 1000", "go");
+        Dark e = at("wide 3 3;home 2 2;harm 300 0 0 2 2", "step 1000", "go");
         int fallen = 0;
         for (int seed = 0; seed < 300; seed++) {
+            if (e.rest() < 9) {
+                e = at("wide 3 3;home 2 2;harm 300 0 0 2 2", "step 1000", "go");
+            }
             seed(seed * 1000003);
             draw(1000);
             boolean falls = draw(1000) < 300;
@@ -100,9 +103,12 @@ public final class NightTest {
     private static void going() {
         // ahead, left, right or none of these; also where a wall is to the left
         for (int way = 0; way < 4; way++) {
-            DarkWood d = at("wide 3 3;home 0 0;wall 0 1 0 1", "step 500;drift 100", "go");
+            Dark d = at("wide 3 3;home 0 0;wall 0 1 0 1", "step 500;drift 100", "go");
             int[] counts = new int[4];
             for (int seed = 1; seed < 2000000000; seed += 4999999) {
+                if (d.rest() < 9) {
+                    d = at("wide 3 3;home 0 0;wall 0 1 0 1", "step 500;drift 100", "go");
+                }
                 seed(seed);
                 int drawn = draw(1000);
                 int which = drawn < 500 ? 0 : drawn < 600 ? 1 : drawn < 700 ? 2 : 3;
@@ -118,18 +124,18 @@ public final class NightTest {
             }
         }
         // a, d of where he is truly, with EYES as they are ahead of the go
-        DarkWood e = at("wide 12 2;home 0 1", "step 1000 if eyes<2;step 0;drift 0", "go");
+        Dark e = at("wide 12 2;home 0 1", "step 1000 if eyes<2;step 0;drift 0", "go");
         night("two steps", e, 0, new int[] {0, 0, 1}, 3, 9, 0, 9, 2, 0, 1, 9);
-        DarkWood f = at("wide 12 2;home 0 1;ground 5 4 0 4 0", "step 0 if ground=5;step 1000;drift 0", "go");
+        Dark f = at("wide 12 2;home 0 1;ground 5 4 0 4 0", "step 0 if ground=5;step 1000;drift 0", "go");
         night("to the mire", f, 0, new int[] {0, 0, 1}, 3, 9, 0, 9, 4, 0, 1, 9);
-        DarkWood g = at("wide 12 2;home 0 1", "step 0;drift 500", "go");
+        Dark g = at("wide 12 2;home 0 1", "step 0;drift 500", "go");
         seed(77);
         boolean left = draw(1000) < 500;
         night("aside surely", g, 0, new int[] {5, 0, 1}, 77, 1, 0, 1, 5, left ? 0 : 1, left ? 1 : 2, 9);
     }
 
     private static void turning() {
-        DarkWood d = at("wide 3 3;home 2 2", "step 1000", "left", "right", "back", "sit", "left if 1=2",
+        Dark d = at("wide 3 3;home 2 2", "step 1000", "left", "right", "back", "sit", "left if 1=2",
                 "right if steps=0;back if steps=1;left if steps=2;go if steps=3");
         int[] start = {0, 0, 1};
         night("left", d, 0, start, 3, 3, 0, 3, 0, 0, 2, 9, 1000);
@@ -143,7 +149,7 @@ public final class NightTest {
 
     /** Which way he looks behind two rounds of sit, then of a left where the TEST holds: 0 begins, 3 is left. */
     private static int leftIf(String wood, String law, String test, int seed) {
-        DarkWood d = at(wood, law, "left if " + test + ";sit");
+        Dark d = at(wood, law, "left if " + test + ";sit");
         return d.night(0, 0, 0, 0, seed, 2, 4);
     }
 
@@ -176,12 +182,12 @@ public final class NightTest {
             Check.due("seen, seed " + seed, leftIf(wood, "feel 1000", "steps=1 and sky=" + told, seed), 3);
         }
         // EYES 30: see as it is told; he sits 30 rounds long, and more than that the SIGNS of the last one count
-        DarkWood d = at(wood, "feel 1000;see 1000", "left if steps=30 and sky=7;sit");
+        Dark d = at(wood, "feel 1000;see 1000", "left if steps=30 and sky=7;sit");
         for (int seed = 0; seed < 50; seed++) {
             night("seen surely", d, 0, new int[] {0, 0, 0}, seed, 31, 0, 31, 0, 0, 3);
         }
         // EYES 0 behind a match: 100 at least
-        DarkWood e = at(wood, "feel 1000;see 1000", "strike if steps=0;left if sky=7;sit");
+        Dark e = at(wood, "feel 1000;see 1000", "strike if steps=0;left if sky=7;sit");
         for (int seed = 0; seed < 2000000000; seed += 99999999) {
             seed(seed);
             draw(1000);
@@ -212,7 +218,7 @@ public final class NightTest {
     }
 
     private static void striking() {
-        DarkWood d = at("wide 3 2;home 2 1;path 0 0 0 0;ground 4 0 0 1 0", "feel 1000;step 1000", "strike", "strike if matches>=8;sit",
+        Dark d = at("wide 3 2;home 2 1;path 0 0 0 0;ground 4 0 0 1 0", "feel 1000;step 1000", "strike", "strike if matches>=8;sit",
                 "strike if steps=0;left if path=1;sit", "strike if steps=0;left if path=0;sit", "strike if steps=0;left if ground=99;sit",
                 "strike;go");
         int[] start = {0, 0, 0};
@@ -224,10 +230,10 @@ public final class NightTest {
         night("shows no path", d, 2, new int[] {1, 0, 0}, 3, 2, 0, 2, 1, 0, 0, 8, 1000);
         night("shows no path", d, 3, new int[] {1, 0, 0}, 3, 2, 0, 2, 1, 0, 3, 8, 1000);
         // without a match: a sit, and EYES go on
-        DarkWood e = at("wide 3 2;home 2 1", "feel 1000", "left if eyes=3 and steps=12;strike");
+        Dark e = at("wide 3 2;home 2 1", "feel 1000", "left if eyes=3 and steps=12;strike");
         night("EYES behind a match and sits", e, 0, start, 3, 13, 0, 13, 0, 0, 3, 0, 1000);
         // what a match shows is neither felt nor seen
-        DarkWood f = at("wide 3 2;home 2 1;ground 4 0 0 0 0", "feel 0", "strike if steps=0;left if ground=4;sit");
+        Dark f = at("wide 3 2;home 2 1;ground 4 0 0 0 0", "feel 0", "strike if steps=0;left if ground=4;sit");
         for (int seed = 0; seed < 40; seed++) {
             night("feels wrongly", f, 0, start, seed, 2, 0, 2, 0, 0, 0, 8, 1000);
         }
@@ -235,12 +241,15 @@ public final class NightTest {
 
     private static void refusedSigns() {
         // a match that is refused is a sit: he is truly where the odds have long lost him
-        DarkWood d = at("wide 12 2;home 11 1;ground 1 1 0 11 0", "step 0;drift 0;feel 1000", "strike");
+        Dark d = at("wide 12 2;home 11 1;ground 1 1 0 11 0", "step 0;drift 0;feel 1000", "strike");
         night("as odds are", d, 0, new int[] {0, 0, 1}, 3, 2, 0, 2, 0, 0, 1, 7, 1000);
         // feel 0 tells a ground that he isn't on: all others stand, 142 each; feel 1000 never slips
-        DarkWood e = at("wide 2 2;home 1 1;source 1 0 0", "hear 950;feel 1000", "left if loud=2;sit");
+        Dark e = at("wide 2 2;home 1 1;source 1 0 0", "hear 950;feel 1000", "left if loud=2;sit");
         int refused = 0;
         for (int seed = 0; seed < 2000000000; seed += 9999999) {
+            if (e.rest() < 9) {
+                e = at("wide 2 2;home 1 1;source 1 0 0", "hear 950;feel 1000", "left if loud=2;sit");
+            }
             seed(seed);
             draw(1000);
             if (draw(1000) >= 100) {
@@ -255,7 +264,7 @@ public final class NightTest {
         }
         Check.due("some slipped", refused > 2, true);
         // hear 997: (1000 - 997) by 4 is 0: one louder or less is refused, and loud stays 99
-        DarkWood f = at("wide 2 2;home 1 1;source 5 0 0", "hear 997;feel 1000", "left if loud=99;sit");
+        Dark f = at("wide 2 2;home 1 1;source 5 0 0", "hear 997;feel 1000", "left if loud=99;sit");
         int slips = 0;
         for (int seed = 0; seed < 2000000000; seed += 999999) {
             seed(seed);
@@ -279,16 +288,16 @@ public final class NightTest {
         // one go: 500 at (0, 0), 500 at (1, 0), grounds and skies alike
         String[] holds = {"on=500", "sure=500", "at=0", "steps=1", "matches=9", "eyes=1", "on+sure=1000", "ground=0"};
         for (String test : holds) {
-            DarkWood d = at(wood, law, "go if steps=0;left if " + test + ";sit", "go if steps=0;left if not " + test + ";sit");
+            Dark d = at(wood, law, "go if steps=0;left if " + test + ";sit", "go if steps=0;left if not " + test + ";sit");
             Check.due(test, d.night(0, 0, 0, 1, 8, 2, 4), 0);
             Check.due("not " + test, d.night(1, 0, 0, 1, 8, 2, 4), 1);
         }
         String[] first = {"on=1000", "sure=1000", "at=0", "steps=0", "matches=9", "eyes=0", "on>=1000 and sure>=1000"};
         for (String test : first) {
-            DarkWood d = at(wood, law, "left if " + test + ";sit");
+            Dark d = at(wood, law, "left if " + test + ";sit");
             Check.due("at first " + test, d.night(0, 0, 0, 1, 8, 1, 4), 0);
         }
-        DarkWood e = at("wide 4 2;home 1 0", "step 500;drift 0;feel 1000", "go if steps=0;left if at=500;sit");
+        Dark e = at("wide 4 2;home 1 0", "step 500;drift 0;feel 1000", "go if steps=0;left if at=500;sit");
         boolean stays = false;
         for (int seed = 1; seed < 2000000000 && !stays; seed += 99999999) {
             seed(seed);
@@ -302,26 +311,29 @@ public final class NightTest {
 
     private static void own() {
         // his own SURE: 500, though he is truly at one of the two
-        DarkWood d = at("wide 4 2;home 3 0", "step 500;drift 0;feel 1000", "go;sit");
+        Dark d = at("wide 4 2;home 3 0", "step 500;drift 0;feel 1000", "go;sit");
         Check.due("his own SURE", d.night(0, 0, 0, 1, 8, 1, 6), 500);
         // a ground tells
-        DarkWood e = at("wide 4 2;home 3 0;ground 2 1 0 1 0", "step 500;drift 0;feel 1000", "go;sit");
+        Dark e = at("wide 4 2;home 3 0;ground 2 1 0 1 0", "step 500;drift 0;feel 1000", "go;sit");
         Check.due("his own SURE", e.night(0, 0, 0, 1, 8, 1, 6), 1000);
         // at HOME, and where he fell, nothing is felt any more
-        DarkWood f = at("wide 3 2;home 1 0;ground 2 1 0 1 0", "step 999;drift 0;feel 1000", "go");
+        Dark f = at("wide 3 2;home 1 0;ground 2 1 0 1 0", "step 999;drift 0;feel 1000", "go");
         seed(8);
         Check.due("ahead", draw(1000) < 999, true);
         night("at HOME", f, 0, new int[] {0, 0, 1}, 8, 9, 1, 1, 1, 0, 1, 9, 999);
-        DarkWood g = at("wide 3 2;home 2 0;ground 2 1 0 1 0;harm 1000 1 0 1 0", "step 999;drift 0;feel 1000", "go");
+        Dark g = at("wide 3 2;home 2 0;ground 2 1 0 1 0;harm 1000 1 0 1 0", "step 999;drift 0;feel 1000", "go");
         night("fallen", g, 0, new int[] {0, 0, 1}, 8, 9, 2, 1, 1, 0, 1, 9, 999);
         // no limit of 200 ACTS: 99 rounds have 400
-        DarkWood h = at("wide 2 2;home 1 1;source 3 0 0", "feel 1000;hear 1000", "left");
+        Dark h = at("wide 2 2;home 1 1;source 3 0 0", "feel 1000;hear 1000", "left");
         night("99 rounds", h, 0, new int[] {0, 0, 0}, 8, 99, 0, 99, 0, 0, 1, 9, 1000);
     }
 
     private static void nights() {
-        DarkWood d = at("wide 3 2;home 2 0;harm 200 1 0 1 0", "step 600;drift 0;feel 1000", "go", "sit");
+        Dark d = at("wide 3 2;home 2 0;harm 200 1 0 1 0", "step 600;drift 0;feel 1000", "go", "sit");
         for (int seed = 0; seed < 2000000000; seed += 99999999) {
+            if (d.rest() < 40) {
+                d = at("wide 3 2;home 2 0;harm 200 1 0 1 0", "step 600;drift 0;feel 1000", "go", "sit");
+            }
             seed(seed);
             int homes = 0;
             int falls = 0;
@@ -355,23 +367,23 @@ public final class NightTest {
     }
 
     private static void finest() {
-        DarkWood d = at("wide 3 2;home 2 0;harm 1000 0 1 0 1", "step 1000");
+        Dark d = at("wide 3 2;home 2 0;harm 1000 0 1 0 1", "step 1000");
         Check.due("no RULES", d.finest(0, 0, 1, 0, 9, 9), -2);
         Check.due("no RULES, and no such way", d.finest(0, 0, 4, 0, 9, 9), -1);
-        Check.text(d, 2, "right;go");
-        Check.text(d, 2, "right if steps=0;go");
+        Scene.text(d, 2, "right;go");
+        Scene.text(d, 2, "right if steps=0;go");
         Check.due("the least of those alike", d.finest(0, 0, 1, 0, 9, 9), 0);
-        Check.text(d, 2, "sit");
+        Scene.text(d, 2, "sit");
         Check.due("the least of those alike", d.finest(0, 0, 1, 0, 9, 9), 0);
-        DarkWood e = at("wide 3 2;home 2 0;harm 1000 0 1 0 1", "step 1000", "right if steps=0;go", "sit", "left");
+        Dark e = at("wide 3 2;home 2 0;harm 1000 0 1 0 1", "step 1000", "right if steps=0;go", "sit", "left");
         Check.due("the fewest FELL", e.finest(0, 0, 1, 0, 9, 9), 1);
-        Check.text(e, 2, "go");
+        Scene.text(e, 2, "go");
         Check.due("the most HOME", e.finest(0, 0, 1, 0, 9, 9), 3);
-        Check.text(e, 2, "go if 1=1");
+        Scene.text(e, 2, "go if 1=1");
         Check.due("the least of those", e.finest(0, 0, 1, 0, 9, 1), 3);
         Check.due("too few rounds for any end", e.finest(0, 0, 1, 0, 1, 1), 0);
         // each RULE's NIGHTS from the same seed on
-        DarkWood f = at("wide 4 2;home 3 0;harm 300 1 0 2 0", "step 700;drift 0;feel 900", "sit;go", "go", "go if 1=1", "go;sit");
+        Dark f = at("wide 4 2;home 3 0;harm 300 1 0 2 0", "step 700;drift 0;feel 900", "sit;go", "go", "go if 1=1", "go;sit");
         for (int seed = 0; seed < 100; seed++) {
             int homes = f.nights(1, 0, 0, 1, seed, 9, 5, 0);
             Check.due("alike from one seed", f.nights(2, 0, 0, 1, seed, 9, 5, 0), homes);
@@ -398,7 +410,7 @@ public final class NightTest {
 
     /** The last DRAW that is below, and the first that isn't. */
     private static void brinks() {
-        DarkWood d = at("wide 3 3;home 0 0;harm 300 2 1 2 1", "step 500;drift 100", "go");
+        Dark d = at("wide 3 3;home 0 0;harm 300 2 1 2 1", "step 500;drift 100", "go");
         int[] start = {1, 1, 0};
         night("499", d, 0, start, seedFor(499), 1, 0, 1, 1, 0, 0);
         night("500", d, 0, start, seedFor(500), 1, 0, 1, 0, 1, 3);
@@ -408,7 +420,7 @@ public final class NightTest {
         night("700", d, 0, start, seedFor(700), 1, 0, 1, 1, 1, 0);
         night("harm 299", d, 0, start, seedFor(650, 299), 1, 2, 1, 2, 1, 1);
         night("harm 300", d, 0, start, seedFor(650, 300), 1, 0, 1, 2, 1, 1);
-        DarkWood e = at("wide 2 2;home 1 1;source 9 0 0;ground 3 0 0 1 1;sky 3 0 0 1 1", "feel 600;see 900;hear 500",
+        Dark e = at("wide 2 2;home 1 1;source 9 0 0;ground 3 0 0 1 1;sky 3 0 0 1 1", "feel 600;see 900;hear 500",
                 "left if ground=3 and steps=1;sit", "left if sky=3 and steps=1;sit", "left if loud=9 and steps=1;sit");
         int[] still = {0, 0, 0};
         night("felt 599", e, 0, still, seedFor(599), 2, 0, 2, 0, 0, 3);
@@ -420,7 +432,7 @@ public final class NightTest {
     }
 
     private static void wrong() {
-        DarkWood d = at("wide 3 2;home 2 0;wall 1 1 1 1", "step 1000", "go");
+        Dark d = at("wide 3 2;home 2 0;wall 1 1 1 1", "step 1000", "go");
         int[][] wrong = {{1, 0, 0, 0, 0, 1}, {-1, 0, 0, 0, 0, 1}, {0, 3, 0, 0, 0, 1}, {0, 0, 2, 0, 0, 1}, {0, -1, 0, 0, 0, 1},
             {0, 0, -1, 0, 0, 1}, {0, 1, 1, 0, 0, 1}, {0, 0, 0, 4, 0, 1}, {0, 0, 0, -1, 0, 1}, {0, 0, 0, 0, -1, 1}, {0, 0, 0, 0, 0, 0},
             {0, 0, 0, 0, 0, 100}, {0, 0, 0, 0, Integer.MIN_VALUE, 1}};
@@ -439,17 +451,17 @@ public final class NightTest {
             Check.due("nights times", d.nights(0, 0, 0, 0, 0, 1, times, 2), -1);
             Check.due("finest times", d.finest(0, 0, 0, 0, 1, times), -1);
         }
-        DarkWood e = new DarkWood();
-        Check.text(e, 0, "wide 3 2");
-        Check.text(e, 1, "see 1");
-        Check.text(e, 2, "go");
+        Dark e = new Dark();
+        Scene.text(e, 0, "wide 3 2");
+        Scene.text(e, 1, "see 1");
+        Scene.text(e, 2, "go");
         Check.due("night without a WALK", e.night(0, 0, 0, 0, 0, 1, 1), -1);
         Check.due("nights without a WALK", e.nights(0, 0, 0, 0, 0, 1, 1, 2), -1);
         Check.due("finest without a WALK", e.finest(0, 0, 0, 0, 1, 1), -1);
-        Check.due("finest without a WALK or RULES", new DarkWood().finest(0, 0, 0, 0, 1, 1), -1);
+        Check.due("finest without a WALK or RULES", new Dark().finest(0, 0, 0, 0, 1, 1), -1);
         // the NIGHT is in the WALK's WOOD by its LAW, wherever the WALK is
-        Check.text(d, 0, "wide 9 2;home 8 0");
-        Check.text(d, 1, "step 0;drift 0");
+        Scene.text(d, 0, "wide 9 2;home 8 0");
+        Scene.text(d, 1, "step 0;drift 0");
         Check.due("walk", d.walk(1, 0, 0, 0, 0), true);
         Check.due("the other WOOD", d.night(0, 5, 0, 1, 0, 99, 1), 3);
         Check.due("walk", d.walk(1, 1, 0, 0, 0), true);

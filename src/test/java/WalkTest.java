@@ -23,16 +23,8 @@ public final class WalkTest {
         Check.finish();
     }
 
-    private static DarkWood at(String wood, String law, int x, int y, int way) {
-        DarkWood d = new DarkWood();
-        Check.due(wood, Check.text(d, 0, wood), 0);
-        Check.due(law, Check.text(d, 1, law), 0);
-        Check.due("walk", d.walk(0, 0, x, y, way), true);
-        return d;
-    }
-
     /** Four WEIGHTS of a CELL, up, right, down, left. */
-    private static void weights(String when, DarkWood d, int x, int y, int up, int right, int down, int left) {
+    private static void weights(String when, Dark d, int x, int y, int up, int right, int down, int left) {
         int[] due = {up, right, down, left};
         for (int way = 0; way < 4; way++) {
             Check.due(when + ": odds(" + x + ", " + y + ", " + way + ")", d.odds(x, y, way), due[way]);
@@ -41,7 +33,7 @@ public final class WalkTest {
     }
 
     private static void beginning() {
-        DarkWood d = at("wide 3 4;wall 1 1 1 1;home 2 3", "step 500", 0, 3, 2);
+        Dark d = Scene.at("wide 3 4;wall 1 1 1 1;home 2 3", "step 500", 0, 3, 2);
         weights("at first", d, 0, 3, 0, 0, 1000000000, 0);
         weights("at first", d, 0, 2, 0, 0, 0, 0);
         int[][] wrong = {{1, 0, 0, 0, 0}, {-1, 0, 0, 0, 0}, {0, 1, 0, 0, 0}, {0, -1, 0, 0, 0}, {0, 0, 3, 0, 0}, {0, 0, 0, 4, 0},
@@ -66,7 +58,7 @@ public final class WalkTest {
     }
 
     private static void going() {
-        DarkWood d = at("wide 3 3;home 2 2", "step 500;drift 100", 1, 1, 0);
+        Dark d = Scene.at("wide 3 3;home 2 2", "step 500;drift 100", 1, 1, 0);
         Check.due("go", d.act(0), 1);
         weights("one go", d, 1, 0, 500000000, 0, 0, 0);
         weights("one go", d, 0, 1, 0, 0, 0, 100000000);
@@ -98,31 +90,31 @@ public final class WalkTest {
 
     private static void wallsAndEnds() {
         // a wall ahead, the end to the left: both stay, looking as they did
-        DarkWood d = at("wide 3 3;wall 0 0 0 0;home 2 2", "step 600;drift 150", 0, 1, 0);
+        Dark d = Scene.at("wide 3 3;wall 0 0 0 0;home 2 2", "step 600;drift 150", 0, 1, 0);
         d.act(0);
         weights("a wall", d, 0, 1, 850000000, 0, 0, 0);
         weights("a wall", d, 1, 1, 0, 150000000, 0, 0);
         weights("a wall", d, 0, 0, 0, 0, 0, 0);
         // beyond the WOOD there is nothing, also where no wall was told
-        DarkWood e = at("wide 2 2", "step 1000", 1, 1, 1);
+        Dark e = Scene.at("wide 2 2", "step 1000", 1, 1, 1);
         e.act(0);
         weights("the end", e, 1, 1, 0, 1000000000, 0, 0);
         e.act(2);
         e.act(0);
         weights("the end", e, 1, 1, 0, 0, 1000000000, 0);
         // a wall beyond the WOOD is none of it
-        DarkWood f = at("wide 2 2;wall 2 0 2 0", "step 1000", 0, 0, 1);
+        Dark f = Scene.at("wide 2 2;wall 2 0 2 0", "step 1000", 0, 0, 1);
         f.act(0);
         weights("inside", f, 1, 0, 0, 1000000000, 0, 0);
         // HOME is no end of a WALK
-        DarkWood g = at("wide 3 2;home 1 0", "step 1000", 0, 0, 1);
+        Dark g = Scene.at("wide 3 2;home 1 0", "step 1000", 0, 0, 1);
         g.act(0);
         g.act(0);
         weights("behind HOME", g, 2, 0, 0, 1000000000, 0, 0);
     }
 
     private static void turning() {
-        DarkWood d = at("wide 3 3", "step 500;drift 100", 1, 1, 1);
+        Dark d = Scene.at("wide 3 3", "step 500;drift 100", 1, 1, 1);
         d.act(0);
         Check.due("left", d.act(1), 2);
         weights("left", d, 1, 1, 300000000, 0, 0, 0);
@@ -142,7 +134,7 @@ public final class WalkTest {
     }
 
     private static void ahead(String law, String wood, int eyes, int due) {
-        DarkWood d = at(wood, law, 0, 0, 1);
+        Dark d = Scene.at(wood, law, 0, 0, 1);
         for (int i = 0; i < eyes; i++) {
             d.act(4);
         }
@@ -196,7 +188,7 @@ public final class WalkTest {
     }
 
     private static void aside(String law, int due) {
-        DarkWood d = at("wide 3 3", law, 1, 1, 0);
+        Dark d = Scene.at("wide 3 3", law, 1, 1, 0);
         d.act(0);
         Check.due(law, d.odds(0, 1, 3), due);
         Check.due(law, d.odds(2, 1, 1), due);
@@ -212,7 +204,7 @@ public final class WalkTest {
         aside("step 0;drift 499", 499000000);
         aside("drift 500", 50000000);
         // each by 1000 downwards, what is left over stays
-        DarkWood d = at("wide 12 2", "step 333;drift 0", 0, 0, 1);
+        Dark d = Scene.at("wide 12 2", "step 333;drift 0", 0, 0, 1);
         for (int i = 0; i < 5; i++) {
             d.act(0);
         }
@@ -236,7 +228,7 @@ public final class WalkTest {
     }
 
     private static void countsAndLimits() {
-        DarkWood d = at("wide 2 2;source 5 0 0", "step 500", 0, 0, 0);
+        Dark d = Scene.at("wide 2 2;source 5 0 0", "step 500", 0, 0, 0);
         for (int i = 1; i <= 31; i++) {
             Check.due("sit", d.act(4), i);
             Check.due("EYES", d.count(6), Math.min(30, i));
@@ -265,43 +257,43 @@ public final class WalkTest {
     }
 
     /** Half at (0, 0), half at (1, 0), looking right; EYES 1. */
-    private static DarkWood halves(String clauses, String law) {
-        DarkWood d = at("wide 2 2" + clauses, "step 500;drift 0" + law, 0, 0, 1);
+    private static Dark halves(String clauses, String law) {
+        Dark d = Scene.at("wide 2 2" + clauses, "step 500;drift 0" + law, 0, 0, 1);
         d.act(0);
         return d;
     }
 
-    private static void two(String when, DarkWood d, long left, long right) {
+    private static void two(String when, Dark d, long left, long right) {
         long sum = left + right;
         Check.due(when, d.odds(0, 0, 1), left * 1000000000 / sum);
         Check.due(when, d.odds(1, 0, 1), right * 1000000000 / sum);
     }
 
     private static void feeling() {
-        DarkWood d = halves(";ground 3 0 0 0 1", ";feel 800");
+        Dark d = halves(";ground 3 0 0 0 1", ";feel 800");
         Check.due("felt", d.felt(3), 2);
         Check.due("felt", d.odds(0, 0, 1), 966183574);
         Check.due("felt", d.odds(1, 0, 1), 33816425);
         Check.due("all together", d.all(6), 999999999);
-        DarkWood e = halves(";ground 3 0 0 0 1", "");
+        Dark e = halves(";ground 3 0 0 0 1", "");
         Check.due("felt, 800 without", e.felt(0), 2);
         two("felt", e, 500000000L * 28 / 1000, 400000000);
         for (int feel = 790; feel < 810; feel++) {
-            DarkWood one = halves(";ground 3 0 0 0 1", ";feel " + feel);
+            Dark one = halves(";ground 3 0 0 0 1", ";feel " + feel);
             Check.due("felt", one.felt(3), 2);
             two("feel " + feel, one, feel, (1000 - feel) / 7);
         }
-        DarkWood up = at("wide 2 2;ground 1 0 0 0 0", "step 500;drift 0", 0, 1, 0);
+        Dark up = Scene.at("wide 2 2;ground 1 0 0 0 0", "step 500;drift 0", 0, 1, 0);
         up.act(0);
         up.felt(1);
         Check.due("looking up, in the corner", up.odds(0, 0, 0), 966183574);
-        DarkWood f = halves(";ground 7 0 0 0 1", ";feel 1000");
+        Dark f = halves(";ground 7 0 0 0 1", ";feel 1000");
         Check.due("felt", f.felt(7), 2);
         two("surely", f, 1, 0);
         Check.due("refused", f.felt(0), -1);
         Check.due("ACTS", f.count(3), 2);
         two("as it was", f, 1, 0);
-        DarkWood g = halves(";ground 7 0 0 0 1", ";feel 0");
+        Dark g = halves(";ground 7 0 0 0 1", ";feel 0");
         Check.due("felt", g.felt(7), 2);
         two("not there", g, 0, 1);
         Check.due("refused", g.felt(0), -1);
@@ -314,7 +306,7 @@ public final class WalkTest {
 
     private static void seeing() {
         // EYES 1: 800 by 30 is 26, 100 at least; else 900 by 9
-        DarkWood d = halves(";sky 4 0 0 0 0", "");
+        Dark d = halves(";sky 4 0 0 0 0", "");
         Check.due("seen", d.seen(4), 2);
         two("seen with EYES 1", d, 100, 100);
         for (int i = 0; i < 14; i++) {
@@ -322,7 +314,7 @@ public final class WalkTest {
         }
         Check.due("seen", d.seen(4), 17);
         two("seen with EYES 15", d, 400, 66);
-        DarkWood e = halves(";sky 9 0 0 0 0", ";see 1000");
+        Dark e = halves(";sky 9 0 0 0 0", ";see 1000");
         for (int i = 0; i < 3; i++) {
             e.act(4);
         }
@@ -334,14 +326,14 @@ public final class WalkTest {
         Check.due("seen", e.seen(9), 46);
         two("seen with EYES 30", e, 1, 0);
         Check.due("refused", e.seen(3), -1);
-        DarkWood wide = halves(";sky 4 0 0 0 0", ";see 0");
+        Dark wide = halves(";sky 4 0 0 0 0", ";see 0");
         Check.due("seen 10", wide.seen(10), -1);
         Check.due("seen -1", wide.seen(-1), -1);
         Check.due("ACTS", wide.count(3), 1);
         for (int i = 0; i < 40; i++) {
             wide.act(4);
         }
-        DarkWood plain = halves(";sky 4 0 0 0 0", "");
+        Dark plain = halves(";sky 4 0 0 0 0", "");
         for (int i = 0; i < 40; i++) {
             plain.act(4);
         }
@@ -350,13 +342,13 @@ public final class WalkTest {
         Check.due("seen 10", e.seen(10), -1);
         Check.due("seen -1", e.seen(-1), -1);
         Check.due("ACTS", e.count(3), 46);
-        DarkWood f = halves(";sky 4 0 0 0 0", ";see 0");
+        Dark f = halves(";sky 4 0 0 0 0", ";see 0");
         for (int i = 0; i < 40; i++) {
             f.act(4);
         }
         Check.due("seen", f.seen(4), 42);
         two("100 at least", f, 100, 100);
-        DarkWood g = halves(";sky 4 0 0 0 0", ";see 119");
+        Dark g = halves(";sky 4 0 0 0 0", ";see 119");
         for (int i = 0; i < 29; i++) {
             g.act(4);
         }
@@ -367,16 +359,16 @@ public final class WalkTest {
     private static void hearing() {
         // LOUD 5 at (0, 0), 4 at (1, 0), of the other SOURCE 0 and 0
         String sources = ";source 5 0 0;source 1 11 11";
-        DarkWood d = halves(sources, ";hear 600");
+        Dark d = halves(sources, ";hear 600");
         Check.due("heard", d.heard(0, 5), 2);
         two("600, 100", d, 600, 100);
-        DarkWood e = halves(sources, ";hear 600");
+        Dark e = halves(sources, ";hear 600");
         Check.due("heard", e.heard(0, 3), 2);
         two("5, 100", e, 5, 100);
-        DarkWood f = halves(sources, "");
+        Dark f = halves(sources, "");
         Check.due("heard", f.heard(0, 6), 2);
         two("50, 2", f, 50, 2);
-        DarkWood g = halves(sources, ";hear 922");
+        Dark g = halves(sources, ";hear 922");
         Check.due("far off, 0 everywhere", g.heard(0, 40), -1);
         Check.due("by 1", g.heard(0, 6), 2);
         two("19, 0", g, 19, 0);
@@ -388,32 +380,32 @@ public final class WalkTest {
         Check.due("heard 41", g.heard(0, 41), -1);
         Check.due("heard -1", g.heard(0, -1), -1);
         Check.due("ACTS", g.count(3), 4);
-        DarkWood h = halves(";source 40 0 0", ";hear 920");
+        Dark h = halves(";source 40 0 0", ";hear 920");
         Check.due("40", h.heard(0, 40), 2);
         two("920, 20", h, 920, 20);
         Check.due("0", h.heard(0, 0), 3);
-        DarkWood i = halves("", "");
+        Dark i = halves("", "");
         Check.due("no SOURCE", i.heard(0, 0), -1);
-        DarkWood j = halves(";source 40 0 0", ";hear 100");
+        Dark j = halves(";source 40 0 0", ";hear 100");
         Check.due("heard 41", j.heard(0, 41), -1);
         Check.due("heard -1", j.heard(0, -1), -1);
         Check.due("heard of the next", j.heard(1, 40), -1);
         Check.due("ACTS", j.count(3), 1);
         Check.due("heard 38", j.heard(0, 38), 2);
         two("11, 225", j, 11, 225);
-        DarkWood k = halves(";source 40 0 0", "");
+        Dark k = halves(";source 40 0 0", "");
         Check.due("heard 40", k.heard(0, 40), 2);
         two("800 without, 50", k, 800, 50);
-        DarkWood l = halves(";source 40 0 0", ";hear 40");
+        Dark l = halves(";source 40 0 0", ";hear 40");
         Check.due("heard 38", l.heard(0, 38), 2);
         two("12, 240", l, 12, 240);
-        DarkWood m = halves(";source 40 0 0", ";hear 41");
+        Dark m = halves(";source 40 0 0", ";hear 41");
         Check.due("heard 38", m.heard(0, 38), 2);
         two("11, 239", m, 11, 239);
     }
 
     private static void striking() {
-        DarkWood d = halves(";ground 3 0 0 0 0;path 1 0 1 0", "");
+        Dark d = halves(";ground 3 0 0 0 0;path 1 0 1 0", "");
         d.act(4);
         Check.due("refused: path", d.strike(3, true), -1);
         Check.due("refused: ground", d.strike(0, false), -1);
@@ -433,11 +425,11 @@ public final class WalkTest {
         }
         Check.due("no match", d.strike(3, false), -1);
         Check.due("ACTS", d.count(3), 11);
-        DarkWood e = halves(";path 1 0 1 0", "");
+        Dark e = halves(";path 1 0 1 0", "");
         Check.due("strike", e.strike(0, true), 8);
         two("shown", e, 0, 1);
         // the least there can be is enough
-        DarkWood least = at("wide 4 2;ground 7 3 0 3 0;path 3 0 3 0", "step 1;drift 0", 0, 0, 1);
+        Dark least = Scene.at("wide 4 2;ground 7 3 0 3 0;path 3 0 3 0", "step 1;drift 0", 0, 0, 1);
         for (int i = 0; i < 3; i++) {
             least.act(0);
         }
@@ -446,7 +438,7 @@ public final class WalkTest {
         Check.due("shown", least.strike(7, true), 8);
         Check.due("and he is there", least.odds(3, 0, 1), 1000000000);
         // thirds, downwards: what is lost stays lost
-        DarkWood f = at("wide 3 2;ground 1 0 0 0 0", "step 500;drift 0", 0, 0, 1);
+        Dark f = Scene.at("wide 3 2;ground 1 0 0 0 0", "step 500;drift 0", 0, 0, 1);
         f.act(0);
         f.act(0);
         Check.due("strike", f.strike(0, false), 8);
@@ -456,17 +448,17 @@ public final class WalkTest {
     }
 
     private static void refusals() {
-        DarkWood d = new DarkWood();
+        Dark d = new Dark();
         Check.due("act without a WALK", d.act(0), -1);
         Check.due("felt without a WALK", d.felt(0), -1);
         Check.due("seen without a WALK", d.seen(0), -1);
         Check.due("heard without a WALK", d.heard(0, 0), -1);
         Check.due("strike without a WALK", d.strike(0, false), -1);
         Check.due("all without a WALK", d.all(0), -1);
-        Check.text(d, 0, "source 1 1 1");
+        Scene.text(d, 0, "source 1 1 1");
         Check.due("heard without a WALK", d.heard(0, 0), -1);
         Check.due("odds without a WALK", d.odds(0, 0, ALL), -1);
-        Check.text(d, 1, "see 1");
+        Scene.text(d, 1, "see 1");
         d.walk(0, 0, 0, 0, 0);
         Check.due("act 5", d.act(5), -1);
         Check.due("act -1", d.act(-1), -1);
@@ -476,7 +468,7 @@ public final class WalkTest {
 
     /** The CELL farthest from the first one, and two LAWS one behind the other with EYES 30. */
     private static void corners() {
-        DarkWood d = at("home 11 11;path 11 11 11 11;harm 500 11 11 11 11", "step 1000", 11, 11, 1);
+        Dark d = Scene.at("home 11 11;path 11 11 11 11;harm 500 11 11 11 11", "step 1000", 11, 11, 1);
         int[] due = {1000000000, 1000000000, 1000000000, 11, 11, 500000000, 1000000000, 0, 1000000000, 0, 0};
         for (int what = 0; what <= 10; what++) {
             Check.due("all(" + what + ") in the corner", d.all(what), due[what]);
@@ -490,7 +482,7 @@ public final class WalkTest {
         }
         d.act(0);
         Check.due("go with EYES 30", d.odds(11, 9, 0), 1000000000);
-        Check.text(d, 1, "step 0;drift 0");
+        Scene.text(d, 1, "step 0;drift 0");
         d.walk(0, 1, 11, 11, 0);
         for (int i = 0; i < 40; i++) {
             d.act(4);
@@ -498,8 +490,8 @@ public final class WalkTest {
         d.act(0);
         Check.due("the other LAW", d.odds(11, 11, 0), 1000000000);
         // nothing of one WOOD's WEIGHTS comes to another one
-        DarkWood e = at("wide 3 3", "step 500;drift 100", 1, 1, 0);
-        Check.text(e, 0, "wide 3 3;wall 0 1 1 2;wall 1 0 2 0");
+        Dark e = Scene.at("wide 3 3", "step 500;drift 100", 1, 1, 0);
+        Scene.text(e, 0, "wide 3 3;wall 0 1 1 2;wall 1 0 2 0");
         e.act(0);
         e.walk(1, 0, 0, 0, 0);
         Check.due("felt", e.felt(0), 1);
@@ -508,7 +500,7 @@ public final class WalkTest {
     }
 
     private static void totals() {
-        DarkWood d = at("wide 3 3;home 0 1;path 1 0 2 1;harm 300 1 0 1 1;harm 1000 2 1 2 1", "step 500;drift 100", 1, 1, 0);
+        Dark d = Scene.at("wide 3 3;home 0 1;path 1 0 2 1;harm 300 1 0 1 1;harm 1000 2 1 2 1", "step 500;drift 100", 1, 1, 0);
         d.act(0);
         // 500 at (1, 0) up, 300 at (1, 1) up, 100 at (0, 1) left, 100 at (2, 1) right
         int[] due = {900000000, 100000000, 500000000, 1, 0, 150000000 + 90000000 + 100000000, 1000000000, 800000000, 100000000, 0,
@@ -521,17 +513,17 @@ public final class WalkTest {
         d.act(3);
         Check.due("down", d.all(9), 800000000);
         // of several the first: rows from above, each from the left
-        DarkWood e = at("wide 3 3", "step 0;drift 500", 1, 1, 0);
+        Dark e = Scene.at("wide 3 3", "step 0;drift 500", 1, 1, 0);
         e.act(0);
         Check.due("x of the first", e.all(3), 0);
         Check.due("y of the first", e.all(4), 1);
-        DarkWood f = at("wide 3 3", "step 0;drift 500", 1, 1, 1);
+        Dark f = Scene.at("wide 3 3", "step 0;drift 500", 1, 1, 1);
         f.act(0);
         Check.due("SURE", f.all(2), 500000000);
         Check.due("x of the first", f.all(3), 1);
         Check.due("y of the first", f.all(4), 0);
         // RISK: downwards for each CELL
-        DarkWood g = at("wide 3 2;ground 1 0 0 0 0;harm 1 0 0 2 1", "step 500;drift 0", 0, 0, 1);
+        Dark g = Scene.at("wide 3 2;ground 1 0 0 0 0;harm 1 0 0 2 1", "step 500;drift 0", 0, 0, 1);
         g.act(0);
         g.act(0);
         g.strike(0, false);

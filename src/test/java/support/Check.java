@@ -1,9 +1,15 @@
-/** What every test shares: feeding texts, comparing answers, and the exit code. */
+/** What every test shares: comparing answers, the sentence of DOC.md that is tested, and the exit code. */
 final class Check {
     private static int wrong;
     private static int calls;
+    private static String sentence = "";
 
     private Check() {
+    }
+
+    /** From here on what is due is due by this sentence, which stands in DOC.md word by word (QuotesTest looks). */
+    static void sentence(String words) {
+        sentence = words;
     }
 
     static void due(String call, long got, long want) {
@@ -11,36 +17,13 @@ final class Check {
         if (got != want) {
             wrong++;
             if (wrong <= 40) {
-                System.out.println(call + ": " + got + ", due " + want);
+                System.out.println((sentence.isEmpty() ? "" : "\"" + sentence + "\": ") + call + ": " + got + ", due " + want);
             }
         }
     }
 
     static void due(String call, boolean got, boolean want) {
         due(call, got ? 1 : 0, want ? 1 : 0);
-    }
-
-    /** Feeds a text byte by byte (characters are bytes) onto an empty TAPE; the bytes behind it are junk that end cuts off. */
-    static void feed(DarkWood of, String text) {
-        for (int at = 0; at < text.length(); at += 20) {
-            int[] five = new int[5];
-            for (int i = 0; i < 20; i++) {
-                int one = at + i < text.length() ? text.charAt(at + i) : '#';
-                five[i / 4] = five[i / 4] << 8 | one & 255;
-            }
-            of.feed(five[0], five[1], five[2], five[3], five[4]);
-        }
-        of.end(text.length());
-    }
-
-    static int text(DarkWood of, int sort, String text) {
-        feed(of, text);
-        return of.text(sort);
-    }
-
-    /** What text answers for a FAULT of a kind at a place. */
-    static int fault(int place, int kind) {
-        return -2 - (1 + 8 * place + kind);
     }
 
     static void finish() {
