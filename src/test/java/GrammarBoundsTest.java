@@ -443,6 +443,16 @@ public final class GrammarBoundsTest {
     }
 
     private static void places() {
+        Check.sentence("1 a NUMBER of more digits, or not as told; 2 too deep (at the sign that opens, or the word not);"
+                + " 3 one VALUE or FACT too many (at its first byte; of a FACT at its SIGN);");
+        fault(LAW, "step  123456", 6, 1);
+        fault(LAW, "drift  501", 7, 1);
+        fault(WOOD, "path 0 0 0  12", 12, 1);
+        fault(WOOD, "path 5 0  4 0", 10, 1);
+        fault(RULE, "go if " + "[ ".repeat(11) + "1=1" + "]".repeat(11), 26, 2);
+        fault(RULE, "go if " + "[ ".repeat(10) + "not 1=1" + "]".repeat(10), 26, 2);
+        fault(RULE, "go if " + Scene.sum(60) + " + eyes=1", 128, 3);
+        fault(RULE, "go if " + Scene.sum(60) + " >= 1", 126, 3);
         Check.sentence("FAULTS, the first along the text, 1 + 8 * its place and:");
         // each kind behind so many blanks: kind 0 to 4 at the byte that opens it
         String[] texts = {"go?", "go if 123456<1", "go if " + "[".repeat(11), "go if " + Scene.sum(61), Scene.many("go", 13)};

@@ -1,7 +1,5 @@
 /** Promises 25 to 27: NIGHTS, by draws that are drawn here once more. */
 public final class NightTest {
-    private static long x;
-
     private NightTest() {
     }
 
@@ -23,15 +21,6 @@ public final class NightTest {
         wrong();
         brinks();
         Check.finish();
-    }
-
-    private static void seed(int seed) {
-        x = seed;
-    }
-
-    private static int draw(int rest) {
-        x = (x * 1103515245 + 12345) % 2147483648L;
-        return (int) (x / 65536 % rest);
     }
 
     private static Dark at(String wood, String law, String... rules) {
@@ -91,9 +80,9 @@ public final class NightTest {
             if (e.rest() < 9) {
                 e = at("wide 3 3;home 2 2;harm 300 0 0 2 2", "step 1000", "go");
             }
-            seed(seed * 1000003);
-            draw(1000);
-            boolean falls = draw(1000) < 300;
+            Draws.seed(seed * 1000003);
+            Draws.draw(1000);
+            boolean falls = Draws.draw(1000) < 300;
             fallen += falls ? 1 : 0;
             night("300 of 1000", e, 0, new int[] {0, 0, 1}, seed * 1000003, 1, falls ? 2 : 0, 1, 1, 0, 1, 9, 1000);
         }
@@ -109,8 +98,8 @@ public final class NightTest {
                 if (d.rest() < 9) {
                     d = at("wide 3 3;home 0 0;wall 0 1 0 1", "step 500;drift 100", "go");
                 }
-                seed(seed);
-                int drawn = draw(1000);
+                Draws.seed(seed);
+                int drawn = Draws.draw(1000);
                 int which = drawn < 500 ? 0 : drawn < 600 ? 1 : drawn < 700 ? 2 : 3;
                 counts[which]++;
                 int to = (way + new int[] {0, 3, 1, 0}[which]) % 4;
@@ -129,8 +118,8 @@ public final class NightTest {
         Dark f = at("wide 12 2;home 0 1;ground 5 4 0 4 0", "step 0 if ground=5;step 1000;drift 0", "go");
         night("to the mire", f, 0, new int[] {0, 0, 1}, 3, 9, 0, 9, 4, 0, 1, 9);
         Dark g = at("wide 12 2;home 0 1", "step 0;drift 500", "go");
-        seed(77);
-        boolean left = draw(1000) < 500;
+        Draws.seed(77);
+        boolean left = Draws.draw(1000) < 500;
         night("aside surely", g, 0, new int[] {5, 0, 1}, 77, 1, 0, 1, 5, left ? 0 : 1, left ? 1 : 2, 9);
     }
 
@@ -161,9 +150,9 @@ public final class NightTest {
         Check.due("no match", leftIf(wood, "feel 1000", "steps=1 and path=99", 5), 3);
         int wrongly = 0;
         for (int seed = 0; seed < 2000000000; seed += 39999999) {
-            seed(seed);
-            boolean rightly = draw(1000) < 500;
-            int told = rightly ? 6 : (7 + draw(7)) % 8;
+            Draws.seed(seed);
+            boolean rightly = Draws.draw(1000) < 500;
+            int told = rightly ? 6 : (7 + Draws.draw(7)) % 8;
             wrongly += rightly ? 0 : 1;
             Check.due("felt, seed " + seed, leftIf(wood, "feel 500", "steps=1 and ground=" + told, seed), 3);
             Check.due("felt, seed " + seed, leftIf(wood, "feel 500", "steps=1 and not ground=" + told, seed), 0);
@@ -174,11 +163,11 @@ public final class NightTest {
     private static void seeing() {
         String wood = "wide 2 2;home 1 1;sky 7 0 0 0 0";
         for (int seed = 0; seed < 2000000000; seed += 39999999) {
-            seed(seed);
-            draw(1000);
+            Draws.seed(seed);
+            Draws.draw(1000);
             // EYES 1 behind the sit: 100 of 1000
-            boolean rightly = draw(1000) < 100;
-            int told = rightly ? 7 : (8 + draw(9)) % 10;
+            boolean rightly = Draws.draw(1000) < 100;
+            int told = rightly ? 7 : (8 + Draws.draw(9)) % 10;
             Check.due("seen, seed " + seed, leftIf(wood, "feel 1000", "steps=1 and sky=" + told, seed), 3);
         }
         // EYES 30: see as it is told; he sits 30 rounds long, and more than that the SIGNS of the last one count
@@ -189,10 +178,10 @@ public final class NightTest {
         // EYES 0 behind a match: 100 at least
         Dark e = at(wood, "feel 1000;see 1000", "strike if steps=0;left if sky=7;sit");
         for (int seed = 0; seed < 2000000000; seed += 99999999) {
-            seed(seed);
-            draw(1000);
-            boolean rightly = draw(1000) < 100;
-            int told = rightly ? 7 : (8 + draw(9)) % 10;
+            Draws.seed(seed);
+            Draws.draw(1000);
+            boolean rightly = Draws.draw(1000) < 100;
+            int told = rightly ? 7 : (8 + Draws.draw(9)) % 10;
             night("seen behind a match", e, 0, new int[] {0, 0, 0}, seed, 2, 0, 2, 0, 0, told == 7 ? 3 : 0);
         }
     }
@@ -203,14 +192,14 @@ public final class NightTest {
         int[] louds = {6, 0, 40};
         for (int i = 0; i < 3; i++) {
             for (int seed = 0; seed < 2000000000; seed += 39999999) {
-                seed(seed);
-                draw(1000);
-                if (draw(1000) >= 100) {
-                    draw(9);
+                Draws.seed(seed);
+                Draws.draw(1000);
+                if (Draws.draw(1000) >= 100) {
+                    Draws.draw(9);
                 }
                 int loud = louds[i];
-                if (draw(1000) >= 300) {
-                    loud = draw(2) == 0 ? Math.max(0, loud - 1) : Math.min(40, loud + 1);
+                if (Draws.draw(1000) >= 300) {
+                    loud = Draws.draw(2) == 0 ? Math.max(0, loud - 1) : Math.min(40, loud + 1);
                 }
                 Check.due("heard, seed " + seed, leftIf(woods[i], "feel 1000;hear 300", "steps=1 and loud=" + loud, seed), 3);
             }
@@ -250,14 +239,14 @@ public final class NightTest {
             if (e.rest() < 9) {
                 e = at("wide 2 2;home 1 1;source 1 0 0", "hear 950;feel 1000", "left if loud=2;sit");
             }
-            seed(seed);
-            draw(1000);
-            if (draw(1000) >= 100) {
-                draw(9);
+            Draws.seed(seed);
+            Draws.draw(1000);
+            if (Draws.draw(1000) >= 100) {
+                Draws.draw(9);
             }
             int loud = 1;
-            if (draw(1000) >= 950) {
-                loud = draw(2) == 0 ? 0 : 2;
+            if (Draws.draw(1000) >= 950) {
+                loud = Draws.draw(2) == 0 ? 0 : 2;
             }
             refused += loud == 1 ? 0 : 1;
             night("heard", e, 0, new int[] {0, 0, 0}, seed, 2, 0, 2, 0, 0, loud == 2 ? 3 : 0);
@@ -267,12 +256,12 @@ public final class NightTest {
         Dark f = at("wide 2 2;home 1 1;source 5 0 0", "hear 997;feel 1000", "left if loud=99;sit");
         int slips = 0;
         for (int seed = 0; seed < 2000000000; seed += 999999) {
-            seed(seed);
-            draw(1000);
-            if (draw(1000) >= 100) {
-                draw(9);
+            Draws.seed(seed);
+            Draws.draw(1000);
+            if (Draws.draw(1000) >= 100) {
+                Draws.draw(9);
             }
-            boolean slipped = draw(1000) >= 997;
+            boolean slipped = Draws.draw(1000) >= 997;
             if (slipped) {
                 slips++;
                 // left at first (99), and again at the second round, as nothing was heard
@@ -300,8 +289,8 @@ public final class NightTest {
         Dark e = at("wide 4 2;home 1 0", "step 500;drift 0;feel 1000", "go if steps=0;left if at=500;sit");
         boolean stays = false;
         for (int seed = 1; seed < 2000000000 && !stays; seed += 99999999) {
-            seed(seed);
-            stays = draw(1000) >= 500;
+            Draws.seed(seed);
+            stays = Draws.draw(1000) >= 500;
             if (stays) {
                 Check.due("at", e.night(0, 0, 0, 1, seed, 2, 4), 0);
             }
@@ -318,8 +307,8 @@ public final class NightTest {
         Check.due("his own SURE", e.night(0, 0, 0, 1, 8, 1, 6), 1000);
         // at HOME, and where he fell, nothing is felt any more
         Dark f = at("wide 3 2;home 1 0;ground 2 1 0 1 0", "step 999;drift 0;feel 1000", "go");
-        seed(8);
-        Check.due("ahead", draw(1000) < 999, true);
+        Draws.seed(8);
+        Check.due("ahead", Draws.draw(1000) < 999, true);
         night("at HOME", f, 0, new int[] {0, 0, 1}, 8, 9, 1, 1, 1, 0, 1, 9, 999);
         Dark g = at("wide 3 2;home 2 0;ground 2 1 0 1 0;harm 1000 1 0 1 0", "step 999;drift 0;feel 1000", "go");
         night("fallen", g, 0, new int[] {0, 0, 1}, 8, 9, 2, 1, 1, 0, 1, 9, 999);
@@ -334,7 +323,7 @@ public final class NightTest {
             if (d.rest() < 40) {
                 d = at("wide 3 2;home 2 0;harm 200 1 0 1 0", "step 600;drift 0;feel 1000", "go", "sit");
             }
-            seed(seed);
+            Draws.seed(seed);
             int homes = 0;
             int falls = 0;
             int rounds = 0;
@@ -343,19 +332,19 @@ public final class NightTest {
                 int eyes = 0;
                 for (int round = 1; round <= 5; round++) {
                     rounds++;
-                    at += draw(1000) < 600 ? 1 : 0;
+                    at += Draws.draw(1000) < 600 ? 1 : 0;
                     eyes++;
                     if (at == 2) {
                         homes++;
                         break;
                     }
-                    if (draw(1000) < (at == 1 ? 200 : 0)) {
+                    if (Draws.draw(1000) < (at == 1 ? 200 : 0)) {
                         falls++;
                         break;
                     }
-                    draw(1000);
-                    if (draw(1000) >= Math.max(100, 800 * eyes / 30)) {
-                        draw(9);
+                    Draws.draw(1000);
+                    if (Draws.draw(1000) >= Math.max(100, 800 * eyes / 30)) {
+                        Draws.draw(9);
                     }
                 }
                 Check.due("homes, seed " + seed, d.nights(0, 0, 0, 1, seed, 5, times, 0), homes);
@@ -391,44 +380,27 @@ public final class NightTest {
         }
     }
 
-    /** A seed behind which the DRAWS are by 1000 these, or below what is told as a number below 0. */
-    private static int seedFor(int... due) {
-        for (int seed = 0; seed < 200000000; seed++) {
-            seed(seed);
-            boolean all = true;
-            for (int i = 0; i < due.length && all; i++) {
-                int drawn = draw(1000);
-                all = due[i] < 0 ? drawn < -due[i] : drawn == due[i];
-            }
-            if (all) {
-                return seed;
-            }
-        }
-        Check.due("there is such a seed", false, true);
-        return 0;
-    }
-
     /** The last DRAW that is below, and the first that isn't. */
     private static void brinks() {
         Dark d = at("wide 3 3;home 0 0;harm 300 2 1 2 1", "step 500;drift 100", "go");
         int[] start = {1, 1, 0};
-        night("499", d, 0, start, seedFor(499), 1, 0, 1, 1, 0, 0);
-        night("500", d, 0, start, seedFor(500), 1, 0, 1, 0, 1, 3);
-        night("599", d, 0, start, seedFor(599), 1, 0, 1, 0, 1, 3);
-        night("600", d, 0, start, seedFor(600, 300), 1, 0, 1, 2, 1, 1);
-        night("699", d, 0, start, seedFor(699, 300), 1, 0, 1, 2, 1, 1);
-        night("700", d, 0, start, seedFor(700), 1, 0, 1, 1, 1, 0);
-        night("harm 299", d, 0, start, seedFor(650, 299), 1, 2, 1, 2, 1, 1);
-        night("harm 300", d, 0, start, seedFor(650, 300), 1, 0, 1, 2, 1, 1);
+        night("499", d, 0, start, Draws.seedFor(499), 1, 0, 1, 1, 0, 0);
+        night("500", d, 0, start, Draws.seedFor(500), 1, 0, 1, 0, 1, 3);
+        night("599", d, 0, start, Draws.seedFor(599), 1, 0, 1, 0, 1, 3);
+        night("600", d, 0, start, Draws.seedFor(600, 300), 1, 0, 1, 2, 1, 1);
+        night("699", d, 0, start, Draws.seedFor(699, 300), 1, 0, 1, 2, 1, 1);
+        night("700", d, 0, start, Draws.seedFor(700), 1, 0, 1, 1, 1, 0);
+        night("harm 299", d, 0, start, Draws.seedFor(650, 299), 1, 2, 1, 2, 1, 1);
+        night("harm 300", d, 0, start, Draws.seedFor(650, 300), 1, 0, 1, 2, 1, 1);
         Dark e = at("wide 2 2;home 1 1;source 9 0 0;ground 3 0 0 1 1;sky 3 0 0 1 1", "feel 600;see 900;hear 500",
                 "left if ground=3 and steps=1;sit", "left if sky=3 and steps=1;sit", "left if loud=9 and steps=1;sit");
         int[] still = {0, 0, 0};
-        night("felt 599", e, 0, still, seedFor(599), 2, 0, 2, 0, 0, 3);
-        night("felt 600", e, 0, still, seedFor(600), 2, 0, 2, 0, 0, 0);
-        night("seen 99", e, 1, still, seedFor(-600, 99), 2, 0, 2, 0, 0, 3);
-        night("seen 100", e, 1, still, seedFor(-600, 100), 2, 0, 2, 0, 0, 0);
-        night("heard 499", e, 2, still, seedFor(-600, -100, 499), 2, 0, 2, 0, 0, 3);
-        night("heard 500", e, 2, still, seedFor(-600, -100, 500), 2, 0, 2, 0, 0, 0);
+        night("felt 599", e, 0, still, Draws.seedFor(599), 2, 0, 2, 0, 0, 3);
+        night("felt 600", e, 0, still, Draws.seedFor(600), 2, 0, 2, 0, 0, 0);
+        night("seen 99", e, 1, still, Draws.seedFor(-600, 99), 2, 0, 2, 0, 0, 3);
+        night("seen 100", e, 1, still, Draws.seedFor(-600, 100), 2, 0, 2, 0, 0, 0);
+        night("heard 499", e, 2, still, Draws.seedFor(-600, -100, 499), 2, 0, 2, 0, 0, 3);
+        night("heard 500", e, 2, still, Draws.seedFor(-600, -100, 500), 2, 0, 2, 0, 0, 0);
     }
 
     private static void wrong() {

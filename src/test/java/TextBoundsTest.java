@@ -92,6 +92,13 @@ public final class TextBoundsTest {
         Check.due("night without RULES", d.night(0, 0, 0, 0, 0, 1, 0), -1);
         Check.due("nights without RULES", d.nights(0, 0, 0, 0, 0, 1, 1, 0), -1);
         Check.due("one object's WOOD is not another one's", new Dark().count(0), 0);
+        Check.sentence("WOODS 0 to 3: texts of at most 400 bytes:");
+        for (int i = 1; i < 4; i++) {
+            Check.due("WOODS", Scene.text(d, WOOD, "home 1 1"), i);
+        }
+        Check.due("a fifth", Scene.text(d, WOOD, "home 1 1"), -1);
+        Check.sentence("None.");
+        Check.due("NONE", DarkWood.NONE, -1);
     }
 
     private static void feeding() {
@@ -339,6 +346,10 @@ public final class TextBoundsTest {
     }
 
     private static void numbersOfAreas() {
+        Check.sentence("CLAUSE: wide NUMBER NUMBER (2 to 12 each: columns, rows; 12 and 12 without) | path AREA | wall AREA | ground NUMBER AREA"
+                + " (0 to 7) | sky NUMBER AREA (0 to 9) | harm NUMBER AREA (0 to 1000) |");
+        number(WOOD, "path ", 0, 11, " 0 11 11");
+        number(WOOD, "wall ", 0, 11, " 0 11 11");
         Check.sentence("AREA: four NUMBERS (0 to 11 each), x, y of its first CELL and of its last one, neither below that of the first.");
         for (String word : new String[] {"path ", "wall ", "ground 7 ", "sky 9 ", "harm 1000 "}) {
             number(WOOD, word, 0, 11, " 0 11 11");
@@ -625,7 +636,21 @@ public final class TextBoundsTest {
     }
 
     private static void layers() {
-        Check.sentence("-2 without these.");
+        Check.sentence("Of a CELL of a WOOD what 0: path, 1: wall (1, 0 each), 2: ground, 3: sky, 4: harm, 5 to 8: LOUD of the SOURCE 0 to 3"
+                + " (NONE: there is none), 9: FAR (NONE: none). -2 without these.");
+        Dark all = new Dark();
+        Scene.text(all, WOOD, "wide 2 2;path 1 0 1 0;wall 1 0 1 0;ground 7 1 0 1 0;sky 9 1 0 1 0;harm 1000 1 0 1 0" + ";source 40 1 0".repeat(4));
+        int[] full = {1, 1, 7, 9, 1000, 40, 40, 40, 40, -1};
+        int[] empty = {0, 0, 0, 0, 0, 39, 39, 39, 39, 0};
+        for (int what = 0; what < 10; what++) {
+            Check.due("the most of each", all.cell(0, 1, 0, what), full[what]);
+            Check.due("the least of each", all.cell(0, 0, 0, what), empty[what]);
+        }
+        Check.sentence("CELLS (x, y), x to the right, y downwards:");
+        Scene.text(all, WOOD, "wide 2 3;ground 1 1 0 1 0;ground 2 0 1 0 1");
+        Check.due("x to the right", all.cell(1, 1, 0, 2), 1);
+        Check.due("y downwards", all.cell(1, 0, 1, 2), 2);
+        Check.due("no row in place of a column", all.cell(1, 2, 0, 2), -2);
         Dark d = new Dark();
         Scene.text(d, WOOD, "wide 4 3");
         Scene.text(d, WOOD, "wide 5 5;source 1 1 1");
