@@ -1294,6 +1294,10 @@ public final class DarkWood {
                 int aside = setting.asideBy(ahead);
                 for (int way = 0; way < WAYS; way++) {
                     long weight = weights[cell * WAYS + way];
+                    // Most are 0 for long, and need no reckoning.
+                    if (weight == 0) {
+                        continue;
+                    }
                     long forth = weight * ahead / 1000;
                     long side = weight * aside / 1000;
                     next[cell * WAYS + way] += weight - forth - 2 * side;

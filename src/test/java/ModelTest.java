@@ -16,7 +16,7 @@ public final class ModelTest {
     }
 
     public static void main(String[] args) {
-        for (int seed = 0; seed < 1200; seed++) {
+        for (int seed = 0; seed < 500; seed++) {
             new ModelTest(seed).run();
         }
         for (int seed = 10000; seed < 12000; seed++) {

@@ -576,6 +576,15 @@ public final class WalkBoundsTest {
             Check.due("a third ground", d.strike(3, one[1] == 1), -1);
             same("refused", seenOf(d), before);
         }
+        // what is shown everywhere changes no WEIGHT, be it 1 or 999000000
+        Dark all = Scene.at("wide 4 2", "step 1;drift 0", 0, 0, 1);
+        Scene.acts(all, 0, 3);
+        long[] small = {all.odds(0, 0, 1), all.odds(1, 0, 1), all.odds(2, 0, 1), all.odds(3, 0, 1)};
+        Check.due("a WEIGHT of 1", small[3], 1);
+        Check.due("strike", all.strike(0, false), 8);
+        for (int x = 0; x < 4; x++) {
+            Check.due("as it was", all.odds(x, 0, 1), small[x]);
+        }
         Dark d = Scene.at("wide 2 2", "step 500", 0, 0, 0);
         for (int left = 8; left >= 0; left--) {
             d.act(4);
