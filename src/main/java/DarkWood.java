@@ -797,7 +797,7 @@ public final class DarkWood {
                 if (join == 1 && orWaits) {
                     into.add(OR, 0);
                 }
-                orWaits |= join == 1;
+                orWaits = orWaits || join == 1;
                 next();
                 fact(depth);
                 if (join == 0) {

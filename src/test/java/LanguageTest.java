@@ -20,6 +20,7 @@ public final class LanguageTest {
         signs(source);
         String bare = source.replaceAll("//.*|/\\*(?s:.*?)\\*/", "").replaceAll("\"[^\"\n]*\"", "\"\"");
         words(bare);
+        truths(bare);
         methods(bare);
         Check.finish();
     }
@@ -56,6 +57,16 @@ public final class LanguageTest {
             many++;
         }
         Check.due("classes", many <= 12, true);
+    }
+
+    /** Of what is true or false only &&, || and ! are used: &, | and ^ are for numbers. */
+    private static void truths(String bare) {
+        Matcher truth = Pattern.compile("\\bboolean ([a-z][A-Za-z]*)\\b").matcher(bare);
+        while (truth.find()) {
+            String name = truth.group(1);
+            String joined = "\\b" + name + " *([|^]|&(?!&))=|\\b" + name + " ([|&^]) |[^|&] ([|&^]) !?" + name + "\\b";
+            Check.due("& or | of " + name, Pattern.compile(joined).matcher(bare).find(), false);
+        }
     }
 
     /** Methods: short, with few parameters, and no private one with a public name. */
